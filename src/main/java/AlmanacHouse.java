@@ -624,7 +624,9 @@ public final class AlmanacHouse {
     private int writeFeasts(int first, int from, int to, int line) {
         int next = line;
         for (int n = from; n <= to; n++) {
-            for (int i = 0; i < feasts.count; i++) {
+            // most days have none, and counting is quicker than going by the order
+            int most = feasts.countOn(n) == 0 ? 0 : feasts.count;
+            for (int i = 0; i < most; i++) {
                 int feast = feasts.inOrder(i);
                 if (feasts.placedDay(feast) == n) {
                     page.putTwoDigits(next, 0, n - first + 1);
