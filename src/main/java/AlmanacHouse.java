@@ -11,8 +11,8 @@ public final class AlmanacHouse {
     private static final int LAST_DAY = 1500000;
     private static final int LAST_YEAR = 5000;
     private static final int CALENDARS = 8;
-    private static final int COUNTED_MOON = 4;
-    private static final int TOWN = 7;
+    private static final int SUN = 0, OLD_SUN = 1, THIRTEEN = 2, TABLED_MOON = 3;
+    private static final int COUNTED_MOON = 4, WEEKS = 5, ROUND = 6, TOWN = 7;
     private static final int LONGEST_ROW = 200;
     private static final int HIGHEST_MONTH = 53;
     private static final int MOST_MONTHS_ADDED = 60000;
@@ -76,7 +76,7 @@ public final class AlmanacHouse {
             case 3:
                 return calendars.weekdayOf(calendar, n);
             default:
-                return calendar == 6 ? (n + 3) % 13 + 1 : 0;
+                return calendar == ROUND ? (n + 3) % 13 + 1 : 0;
         }
     }
 
@@ -173,7 +173,7 @@ public final class AlmanacHouse {
         if (!isCalendar(calendar) || calendar == TOWN) {
             return BAD;
         }
-        if (!calendars.hasYear(0, year)) {
+        if (!calendars.hasYear(SUN, year)) {
             return NONE;
         }
         if (!isDay(n)) {
@@ -257,7 +257,7 @@ public final class AlmanacHouse {
         if (!feasts.has(feast)) {
             return BAD;
         }
-        if (!calendars.hasYear(0, year)) {
+        if (!calendars.hasYear(SUN, year)) {
             return NONE;
         }
         feasts.place(year);
@@ -268,7 +268,7 @@ public final class AlmanacHouse {
         if (!feasts.has(feast)) {
             return BAD;
         }
-        if (!calendars.hasYear(0, year)) {
+        if (!calendars.hasYear(SUN, year)) {
             return NONE;
         }
         feasts.place(year);
@@ -280,7 +280,7 @@ public final class AlmanacHouse {
         if (style != 0 && style != 1) {
             return BAD;
         }
-        if (!calendars.hasYear(0, year)) {
+        if (!calendars.hasYear(SUN, year)) {
             return NONE;
         }
         return dayOrOutside(calendars.movableDay(style, year));
@@ -290,7 +290,7 @@ public final class AlmanacHouse {
         if (!isDay(n)) {
             return OUTSIDE;
         }
-        feasts.place(calendars.yearOf(0, n));
+        feasts.place(calendars.yearOf(SUN, n));
         int before = 0;
         for (int i = 0; i < feasts.count; i++) {
             int feast = feasts.inOrder(i);
@@ -441,8 +441,8 @@ public final class AlmanacHouse {
         parishes.lookAt(parish, first, last);
         page.begin(year, month);
         int line = Page.lineOf(first, last) + 1;
-        int lastYear = calendars.yearOf(0, last);
-        for (int y = calendars.yearOf(0, first); y <= lastYear; y++) {
+        int lastYear = calendars.yearOf(SUN, last);
+        for (int y = calendars.yearOf(SUN, first); y <= lastYear; y++) {
             feasts.place(y);
             int from = Math.max(first, calendars.firstDayIn(y));
             int to = Math.min(last, calendars.lastDayIn(y));
@@ -463,11 +463,11 @@ public final class AlmanacHouse {
         if (!parishes.has(parish)) {
             return BAD;
         }
-        if (!calendars.hasYear(0, year)) {
+        if (!calendars.hasYear(SUN, year)) {
             return NONE;
         }
-        int first = calendars.yearStart(0, year);
-        int days = calendars.daysInYear(0, year);
+        int first = calendars.yearStart(SUN, year);
+        int days = calendars.daysInYear(SUN, year);
         if (!isDay(first) || !isDay(first + days - 1)) {
             return OUTSIDE;
         }
@@ -673,7 +673,7 @@ public final class AlmanacHouse {
         }
 
         private static int firstYear(int calendar) {
-            return calendar == 2 || calendar == 3 || calendar == COUNTED_MOON || calendar == TOWN ? 1 : 0;
+            return calendar == SUN || calendar == OLD_SUN || calendar == WEEKS || calendar == ROUND ? 0 : 1;
         }
 
         int lastYear(int calendar) {
@@ -697,21 +697,21 @@ public final class AlmanacHouse {
             int julian = 365 * year + (year + 3) / 4;
             int gregorian = julian - (year + 99) / 100 + (year + 399) / 400;
             switch (calendar) {
-                case 0:
+                case SUN:
                     return gregorian - 60;
-                case 1:
+                case OLD_SUN:
                     return julian - 62;
-                case 2:
+                case THIRTEEN:
                     return 365 * (year - 1) + year / 4;
-                case 3:
+                case TABLED_MOON:
                     return 354 * (year - 1) + (11 * year + 3) / 30;
                 case COUNTED_MOON:
                     return year < 1 || year >= countedStart.length ? 0 : countedStart[year];
-                case 5:
+                case WEEKS:
                     // the week of the fourth day has the YEAR's first Thursday
                     int fourth = gregorian - 57;
                     return fourth - (fourth + 63) % 7;
-                case 6:
+                case ROUND:
                     return 360 * year;
                 default:
                     return startOfRow(ROWS_A_YEAR * (year - 1));
@@ -724,13 +724,13 @@ public final class AlmanacHouse {
 
         int monthsIn(int calendar, int year) {
             switch (calendar) {
-                case 2:
+                case THIRTEEN:
                     return 13;
                 case COUNTED_MOON:
                     return (7 * year + 1) % 19 < 7 ? 13 : 12;
-                case 5:
-                    return (yearStart(5, year + 1) - yearStart(5, year)) / 7;
-                case 6:
+                case WEEKS:
+                    return (yearStart(WEEKS, year + 1) - yearStart(WEEKS, year)) / 7;
+                case ROUND:
                     return 18;
                 case TOWN:
                     return Math.min(ROWS_A_YEAR, rowCount - ROWS_A_YEAR * (year - 1));
@@ -742,18 +742,18 @@ public final class AlmanacHouse {
         /** How many MONTHS lie ahead of a YEAR. */
         private int monthsAhead(int calendar, int year) {
             switch (calendar) {
-                case 0:
-                case 1:
+                case SUN:
+                case OLD_SUN:
                     return 12 * year;
-                case 2:
+                case THIRTEEN:
                     return 13 * (year - 1);
-                case 3:
+                case TABLED_MOON:
                     return 12 * (year - 1);
                 case COUNTED_MOON:
                     return (235 * year - 234) / 19;
-                case 5:
-                    return (yearStart(5, year) + 63) / 7;
-                case 6:
+                case WEEKS:
+                    return (yearStart(WEEKS, year) + 63) / 7;
+                case ROUND:
                     return 18 * year;
                 default:
                     return Math.min(rowCount, ROWS_A_YEAR * (year - 1));
@@ -772,18 +772,18 @@ public final class AlmanacHouse {
         /** The YEAR's days are handed in, as they tell which MONTH has a day more or less. */
         private int monthDays(int calendar, int year, int month, int yearDays) {
             switch (calendar) {
-                case 0:
-                case 1:
+                case SUN:
+                case OLD_SUN:
                     return sunMonthDays(month, yearDays);
-                case 2:
+                case THIRTEEN:
                     return month == 13 ? yearDays - 360 : 30;
-                case 3:
+                case TABLED_MOON:
                     return month == 12 ? yearDays - 325 : 30 - (month + 1) % 2;
                 case COUNTED_MOON:
                     return countedMonthDays(month, yearDays);
-                case 5:
+                case WEEKS:
                     return 7;
-                case 6:
+                case ROUND:
                     return 20;
                 default:
                     int row = ROWS_A_YEAR * (year - 1) + month;
@@ -813,11 +813,11 @@ public final class AlmanacHouse {
         /** Where all MONTHS but the last one are of the same length: that; else 0. */
         private static int evenMonthDays(int calendar) {
             switch (calendar) {
-                case 2:
+                case THIRTEEN:
                     return 30;
-                case 5:
+                case WEEKS:
                     return 7;
-                case 6:
+                case ROUND:
                     return 20;
                 default:
                     return 0;
@@ -890,7 +890,7 @@ public final class AlmanacHouse {
 
         int weekdayOf(int calendar, int n) {
             switch (calendar) {
-                case 6:
+                case ROUND:
                     return (n + 7) % 20;
                 case TOWN:
                     return (n - rowStart[0]) % 10;
@@ -921,13 +921,14 @@ public final class AlmanacHouse {
 
         /** Of a YEAR of CALENDAR 0 the first day within the range. */
         int firstDayIn(int year) {
-            return Math.max(0, yearStart(0, year));
+            return Math.max(0, yearStart(SUN, year));
         }
 
         int lastDayIn(int year) {
-            return Math.min(LAST_DAY, yearStart(0, year + 1) - 1);
+            return Math.min(LAST_DAY, yearStart(SUN, year + 1) - 1);
         }
 
+        /** A style bears the number of the CALENDAR in which it counts. */
         int movableDay(int style, int year) {
             int golden = year % 19;
             int l = style == 1 ? oldStyleShift(golden, year) : newStyleShift(golden, year);
@@ -1062,7 +1063,7 @@ public final class AlmanacHouse {
         boolean isRuleRight(int ofRule, int ofA, int ofB, int ofC) {
             switch (ofRule) {
                 case FIXED:
-                    return within(ofA, 1, HIGHEST_MONTH) && within(ofB, 1, LONGEST_ROW) && within(ofC, 0, TOWN - 1);
+                    return within(ofA, 1, HIGHEST_MONTH) && within(ofB, 1, LONGEST_ROW) && within(ofC, SUN, ROUND);
                 case WEEKDAY:
                     return within(ofA, 1, 12) && within(ofB, 0, 6) && (within(ofC, 1, 5) || ofC == -1);
                 case MOVABLE:
@@ -1216,8 +1217,8 @@ public final class AlmanacHouse {
         }
 
         private int weekdayDay(int month, int weekday, int which, int year) {
-            int first = calendars.monthStart(0, year, month);
-            int end = first + calendars.daysInMonth(0, year, month);
+            int first = calendars.monthStart(SUN, year, month);
+            int end = first + calendars.daysInMonth(SUN, year, month);
             int n = first + Math.floorMod(weekday - first, 7);
             if (which == -1) {
                 return n + 28 < end ? n + 28 : n + 21;
@@ -1370,8 +1371,8 @@ public final class AlmanacHouse {
             if (rulesOf(parish) == 0) {
                 return;
             }
-            int firstYear = Math.max(0, calendars.yearOf(0, freeStart) - 1);
-            int lastYear = Math.min(LAST_YEAR, calendars.yearOf(0, freeEnd - 1) + 1);
+            int firstYear = Math.max(0, calendars.yearOf(SUN, freeStart) - 1);
+            int lastYear = Math.min(LAST_YEAR, calendars.yearOf(SUN, freeEnd - 1) + 1);
             for (int year = firstYear; year <= lastYear; year++) {
                 feasts.place(year);
                 markFeasts(parish, year);
