@@ -1495,9 +1495,9 @@ public final class AlmanacHouse {
         int countBooks() {
             int at = 0;
             for (int books = 1; books <= MOST; books++) {
+                // where no whole head is left, no SUM is left behind it either
                 int sumAt = at + HEAD + numberAt(at + 2, 2);
-                // what is left must hold a head and a sum before either is believed
-                if (at + FRAME > size || sumAt + SUM > size || numberAt(sumAt, SUM) != sumOf(at, sumAt)) {
+                if (sumAt + SUM > size || numberAt(sumAt, SUM) != sumOf(at, sumAt)) {
                     return NONE;
                 }
                 at = sumAt + SUM;

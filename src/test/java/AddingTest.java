@@ -76,6 +76,10 @@ public final class AddingTest {
         Due.is("addMonths(0, 1500000, -60000)", x.addMonths(0, 1500000, -60000), OUTSIDE);
         Due.is("addMonths(2, 0, -1)", x.addMonths(2, 0, -1), OUTSIDE);
         Due.is("addMonths(0, 0, -2)", x.addMonths(0, 0, -2), OUTSIDE);
+        for (int c = 2; c <= 4; c++) {
+            Due.is("addMonths(" + c + ", 30, -1)", x.addMonths(c, 30, -1), 0);
+            Due.is("addMonths(" + c + ", 30, -2)", x.addMonths(c, 30, -2), OUTSIDE);
+        }
         Due.is("addMonths(5, 0, 60000)", x.addMonths(5, 0, 60000), 420000);
         Due.is("addMonths(0, 0, MAX)", x.addMonths(0, 0, Integer.MAX_VALUE), BAD);
         Due.is("addMonths(0, 0, MIN)", x.addMonths(0, 0, Integer.MIN_VALUE), BAD);

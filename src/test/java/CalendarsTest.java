@@ -16,6 +16,7 @@ public final class CalendarsTest {
         agreesWithIsoDates(x);
         weeksByThursdays(x);
         agreesWithJulianDates(x);
+        agreesWithTheListedMonths(x);
         datesComeBack(x);
         firstDays(x);
         leapDays(x);
@@ -74,6 +75,23 @@ public final class CalendarsTest {
             Due.is("fromDay(1, " + n + ", 0)", x.fromDay(1, n, 0), julian.get(Calendar.YEAR));
             Due.is("fromDay(1, " + n + ", 1)", x.fromDay(1, n, 1), julian.get(Calendar.MONTH) + 1);
             Due.is("fromDay(1, " + n + ", 2)", x.fromDay(1, n, 2), julian.get(Calendar.DAY_OF_MONTH));
+        }
+    }
+
+    /** Every MONTH of every YEAR, against the lists of SlowHouse. */
+    private static void agreesWithTheListedMonths(AlmanacHouse x) {
+        SlowHouse slow = new SlowHouse();
+        for (int c = 0; c <= 6; c++) {
+            for (int year = 0; year <= 5000; year++) {
+                int months = slow.months(c, year);
+                Due.is("months(" + c + ", " + year + ")", x.months(c, year), months);
+                for (int m = 1; m <= months; m++) {
+                    int length = slow.monthLength(c, year, m);
+                    if (x.monthLength(c, year, m) != length || x.toDay(c, year, m, 1) != slow.toDay(c, year, m, 1)) {
+                        Due.yes("MONTH " + m + " of YEAR " + year + " of " + c, false);
+                    }
+                }
+            }
         }
     }
 

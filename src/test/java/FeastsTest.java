@@ -165,6 +165,10 @@ public final class FeastsTest {
         for (int[] k : knownOld) {
             Due.is("movable(1, " + k[0] + ")", x.movable(1, k[0]), dayOf(k[0], k[1], k[2]));
         }
+        for (int year = 0; year < 4107; year++) {
+            Due.is("movable(0, " + year + ")", x.movable(0, year), meeusDay(year));
+            Due.is("movable(1, " + year + ")", x.movable(1, year), meeusOldDay(x, year));
+        }
         for (int year = 0; year <= 5000; year++) {
             int n = x.movable(0, year);
             if (year >= 4107) {
@@ -181,6 +185,27 @@ public final class FeastsTest {
         Due.is("movable(0, -1)", x.movable(0, -1), NONE);
         Due.is("movable(1, 5001)", x.movable(1, 5001), NONE);
         Due.is("movable(1, MIN)", x.movable(1, Integer.MIN_VALUE), NONE);
+    }
+
+    /** Easter by another formula than the document's, for CALENDAR 0. */
+    private static int meeusDay(int year) {
+        int a = year % 19;
+        int b = year / 100;
+        int c = year % 100;
+        int g = (b - (b + 8) / 25 + 1) / 3;
+        int h = (19 * a + b - b / 4 - g + 15) % 30;
+        int l = (32 + 2 * (b % 4) + 2 * (c / 4) - h - c % 4) % 7;
+        int m = (a + 11 * h + 22 * l) / 451;
+        int sum = h + l - 7 * m + 114;
+        return dayOf(year, sum / 31, sum % 31 + 1);
+    }
+
+    /** The same for CALENDAR 1. */
+    private static int meeusOldDay(AlmanacHouse x, int year) {
+        int d = (19 * (year % 19) + 15) % 30;
+        int e = (2 * (year % 4) + 4 * (year % 7) - d + 34) % 7;
+        int sum = d + e + 114;
+        return x.toDay(1, year, sum / 31, sum % 31 + 1);
     }
 
     private static void movableFeasts() {

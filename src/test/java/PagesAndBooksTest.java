@@ -8,9 +8,11 @@ public final class PagesAndBooksTest {
         pageOverTwoYears();
         longPages();
         pagesOfWeeksAndOthers();
+        moonsAtTheTurnOfADay();
         pageRefuses();
         signRefuses();
         bookOfAYear();
+        bridgesAtTheEndsOfABook();
         manyFeastsOnADay();
         booksRefuse();
         tapeOfBytes();
@@ -145,6 +147,28 @@ public final class PagesAndBooksTest {
         Due.yes("twelve or thirteen moons", moons == 12 || moons == 13);
     }
 
+    /** A NEW MOON in a day's first or last PART falls on that day and on no other. */
+    private static void moonsAtTheTurnOfADay() {
+        AlmanacHouse x = new AlmanacHouse();
+        x.parish(0, false);
+        int found = 0;
+        for (int k = 0; k <= 50794; k++) {
+            long part = (5604 + k * 765433L) % 25920;
+            if (part <= 1 || part >= 25918) {
+                found++;
+                int n = x.newMoon(k);
+                for (int day = n - 1; day <= n + 1; day++) {
+                    x.page(0, 6, x.fromDay(6, day, 0), x.fromDay(6, day, 1));
+                    int first = day - x.fromDay(6, day, 2) + 1;
+                    int line = 2 + day / 7 - first / 7;
+                    Due.is("the moon of day " + day, x.sign(line, 23 + day % 7), day == n ? 'o' : 32);
+                }
+                Due.yes("age(" + n + ")", part != 0 || x.age(n) == 0);
+            }
+        }
+        Due.yes("there are such moons", found >= 4);
+    }
+
     private static int weeks(AlmanacHouse x, int calendar, int year, int month) {
         int first = x.toDay(calendar, year, month, 1);
         int last = first + x.monthLength(calendar, year, month) - 1;
@@ -229,6 +253,26 @@ public final class PagesAndBooksTest {
         Due.is("1 1 2024", x.byteAt(373 + 4) >> 4, 0);
         Due.is("verify()", x.verify(), 2);
         Due.is("count(6)", x.count(6), 747);
+    }
+
+    private static void bridgesAtTheEndsOfABook() {
+        AlmanacHouse x = new AlmanacHouse();
+        x.parish(0, true);
+        x.parish(0, true);
+        x.feast(0, 12, 30, 0, 1);
+        x.feast(0, 1, 1, 0, 1);
+        x.feast(0, 12, 31, 0, 1);
+        x.feast(0, 1, 2, 0, 1);
+        x.rule(0, 0, 0, 0);
+        x.rule(0, 1, 0, 0);
+        x.rule(1, 2, 0, 0);
+        x.rule(1, 3, 0, 0);
+        Due.is("book(0, 2001)", x.book(0, 2001), 373);
+        Due.is("29 12 2001 is not off", x.byteAt(4 + 362) & 8, 0);
+        Due.is("31 12 2001 is off by a bridge", x.byteAt(4 + 364) & 8, 8);
+        Due.is("book(1, 2001)", x.book(1, 2001), 746);
+        Due.is("1 1 2001 is off by a bridge", x.byteAt(373 + 4) & 8, 8);
+        Due.is("3 1 2001 is not off", x.byteAt(373 + 6) & 8, 0);
     }
 
     private static void manyFeastsOnADay() {

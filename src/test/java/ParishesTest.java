@@ -10,6 +10,7 @@ public final class ParishesTest {
         weeklyDays();
         feastDays();
         bridges();
+        bridgesBetweenFeasts();
         yearsAround();
         feastsFarBehindFreeNothing();
         workedDays();
@@ -114,6 +115,46 @@ public final class ParishesTest {
         Due.is("inRow(4, LAST)", x.inRow(4, LAST), 0);
         Due.is("nextOff(4, LAST - 1)", x.nextOff(4, LAST - 1), NONE);
         Due.is("worked(3, 0, 0)", x.worked(3, 0, 0), 1);
+    }
+
+    /** The days beside the one that is asked for have YEARS of their own around them. */
+    private static void bridgesBetweenFeasts() {
+        AlmanacHouse x = new AlmanacHouse();
+        x.parish(0, true);
+        x.feast(0, 7, 1, 0, 1);
+        x.feast(0, 7, 3, 0, 1);
+        x.rule(0, 0, 0, 0);
+        x.rule(0, 1, 0, 0);
+        int day = x.toDay(0, 2000, 7, 2);
+        Due.is("isOff between", x.isOff(0, day), 1);
+        Due.is("isOff ahead", x.isOff(0, day - 2), 0);
+        Due.is("isOff behind", x.isOff(0, day + 2), 0);
+        Due.is("nextOff of the first", x.nextOff(0, day - 1), day);
+        Due.is("inRow between", x.inRow(0, day), 3);
+        // 1 1 2001 by a FEAST of 2002, 31 12 2000 by one of 1999
+        AlmanacHouse y = new AlmanacHouse();
+        y.feast(0, 1, 1, 0, 1);
+        y.feast(0, 12, 31, 0, 1);
+        for (int i = 0; i < 9; i++) {
+            y.feast(3, 2 * i, -40, 0, 1);
+            y.feast(3, 2 * i + 1, 40, 0, 1);
+        }
+        int ahead = y.feast(3, 18, -5, 0, 1);
+        int behind = y.feast(3, 19, 6, 0, 1);
+        int beside = y.feast(0, 12, 30, 0, 1);
+        int beyond = y.feast(0, 1, 2, 0, 1);
+        y.parish(0, true);
+        y.parish(0, true);
+        y.rule(0, ahead, 0, 0);
+        y.rule(0, beside, 0, 0);
+        y.rule(1, behind, 0, 0);
+        y.rule(1, beyond, 0, 0);
+        int newYear = y.toDay(0, 2001, 1, 1);
+        Due.is("feastDay of 2002", y.feastDay(ahead, 2002), newYear);
+        Due.is("feastDay of 1999", y.feastDay(behind, 1999), newYear - 1);
+        Due.is("31 12 2000", y.isOff(0, newYear - 1), 1);
+        Due.is("1 1 2001", y.isOff(1, newYear), 1);
+        Due.is("worked(0, 31 12, 31 12)", y.worked(0, newYear - 1, newYear - 1), 0);
     }
 
     private static void yearsAround() {
