@@ -1,0 +1,8 @@
+/** Every sentence of the document that names an edge, each with a test of its own. */
+public final class EdgesTest {
+    public static void main(String[] args) {
+        EdgesOfCalendars.run();
+        EdgesOfAdding.run();
+        Due.end("EdgesTest");
+    }
+}
