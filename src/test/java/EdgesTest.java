@@ -3,6 +3,8 @@ public final class EdgesTest {
     public static void main(String[] args) {
         EdgesOfCalendars.run();
         EdgesOfAdding.run();
+        EdgesOfRowsAndWords.run();
+        EdgesOfFeasts.run();
         Due.end("EdgesTest");
     }
 }
