@@ -1,6 +1,3 @@
-import java.time.LocalDate;
-import java.time.temporal.ChronoUnit;
-
 /** The edges of promises 7 to 10: adding, differences, anniversaries. */
 final class EdgesOfAdding {
     private static final int LAST = 1500000;
@@ -33,10 +30,6 @@ final class EdgesOfAdding {
         birthdaysAreTheFirst();
         birthdaysWithinTheRange();
         birthdaysThatAreNone();
-    }
-
-    private static int dayOf(int year, int month, int day) {
-        return (int) ChronoUnit.DAYS.between(LocalDate.of(0, 3, 1), LocalDate.of(year, month, day));
     }
 
     /** Twelve ROWS: YEAR 1 is 2000 .. 2139, of YEAR 2 there are 2140 .. 2142 and 2143 .. 2192. */
@@ -92,15 +85,15 @@ final class EdgesOfAdding {
     private static void monthsAreCut() {
         Due.sentence(7, "To add k MONTHS: the MONTH k further on (or back), day by day as told of that.");
         Twins x = town();
-        x.due(dayOf(2001, 2, 28), "addMonths", 0, dayOf(2001, 1, 28), 1);
+        x.due(Dates.dayOf(2001, 2, 28), "addMonths", 0, Dates.dayOf(2001, 1, 28), 1);
         for (int day = 29; day <= 31; day++) {
-            x.due(dayOf(2001, 2, 28), "addMonths", 0, dayOf(2001, 1, day), 1);
-            x.due(dayOf(2000, 2, 29), "addMonths", 0, dayOf(2000, 1, day), 1);
-            x.due(dayOf(2001, 2, 28), "addMonths", 0, dayOf(2001, 3, day), -1);
-            x.due(dayOf(2001, 2, 28), "addMonths", 0, dayOf(2000, 12, day), 2);
+            x.due(Dates.dayOf(2001, 2, 28), "addMonths", 0, Dates.dayOf(2001, 1, day), 1);
+            x.due(Dates.dayOf(2000, 2, 29), "addMonths", 0, Dates.dayOf(2000, 1, day), 1);
+            x.due(Dates.dayOf(2001, 2, 28), "addMonths", 0, Dates.dayOf(2001, 3, day), -1);
+            x.due(Dates.dayOf(2001, 2, 28), "addMonths", 0, Dates.dayOf(2000, 12, day), 2);
         }
-        x.due(dayOf(2001, 4, 30), "addMonths", 0, dayOf(2001, 3, 31), 1);
-        x.due(dayOf(2001, 3, 30), "addMonths", 0, dayOf(2001, 4, 30), -1);
+        x.due(Dates.dayOf(2001, 4, 30), "addMonths", 0, Dates.dayOf(2001, 3, 31), 1);
+        x.due(Dates.dayOf(2001, 3, 30), "addMonths", 0, Dates.dayOf(2001, 4, 30), -1);
         // the thirteenth MONTH of YEAR 3 has six days, that of YEAR 4 five; it begins on days 1090 and 1456
         for (int day = 1; day <= 30; day++) {
             x.due(1090 + Math.min(day, 6) - 1, "addMonths", 2, 1060 + day - 1, 1);
@@ -119,10 +112,10 @@ final class EdgesOfAdding {
     private static void monthsTurn() {
         Due.sentence(7, "day follows day, MONTH MONTH, YEAR YEAR.");
         Twins x = town();
-        x.due(dayOf(2001, 1, 1), "addMonths", 0, dayOf(2000, 12, 1), 1);
-        x.due(dayOf(2000, 12, 1), "addMonths", 0, dayOf(2001, 1, 1), -1);
-        x.due(dayOf(2002, 1, 1), "addMonths", 0, dayOf(2001, 1, 1), 12);
-        x.due(dayOf(1999, 12, 31), "addMonths", 0, dayOf(2001, 1, 31), -13);
+        x.due(Dates.dayOf(2001, 1, 1), "addMonths", 0, Dates.dayOf(2000, 12, 1), 1);
+        x.due(Dates.dayOf(2000, 12, 1), "addMonths", 0, Dates.dayOf(2001, 1, 1), -1);
+        x.due(Dates.dayOf(2002, 1, 1), "addMonths", 0, Dates.dayOf(2001, 1, 1), 12);
+        x.due(Dates.dayOf(1999, 12, 31), "addMonths", 0, Dates.dayOf(2001, 1, 31), -13);
         x.due(365, "addMonths", 2, 360, 1).due(360, "addMonths", 2, 365, -1).due(365, "addMonths", 2, 0, 13);
         x.due(354, "addMonths", 3, 325, 1).due(325, "addMonths", 3, 354, -1);
         // YEAR 3 of 4 has thirteen MONTHS, and YEAR 2 twelve
@@ -217,11 +210,11 @@ final class EdgesOfAdding {
         Due.sentence(8, "To add k YEARS to a day (by a CALENDAR): its date with the YEAR k more; if that has not so many MONTHS, its last"
             + " one; if that has not so many days, its last one.");
         Twins x = town();
-        int leapDay = dayOf(2000, 2, 29);
-        x.due(dayOf(2001, 2, 28), "addYears", 0, leapDay, 1).due(dayOf(1999, 2, 28), "addYears", 0, leapDay, -1);
-        x.due(dayOf(2004, 2, 29), "addYears", 0, leapDay, 4).due(dayOf(2100, 2, 28), "addYears", 0, leapDay, 100);
-        x.due(dayOf(2001, 2, 28), "addYears", 0, dayOf(2000, 2, 28), 1);
-        x.due(dayOf(2000, 2, 28), "addYears", 0, dayOf(2001, 2, 28), -1);
+        int leapDay = Dates.dayOf(2000, 2, 29);
+        x.due(Dates.dayOf(2001, 2, 28), "addYears", 0, leapDay, 1).due(Dates.dayOf(1999, 2, 28), "addYears", 0, leapDay, -1);
+        x.due(Dates.dayOf(2004, 2, 29), "addYears", 0, leapDay, 4).due(Dates.dayOf(2100, 2, 28), "addYears", 0, leapDay, 100);
+        x.due(Dates.dayOf(2001, 2, 28), "addYears", 0, Dates.dayOf(2000, 2, 28), 1);
+        x.due(Dates.dayOf(2000, 2, 28), "addYears", 0, Dates.dayOf(2001, 2, 28), -1);
         // 6 13 3, 5 13 4 and 6 13 7
         x.due(1460, "addYears", 2, 1095, 1).due(2556, "addYears", 2, 1095, 4).due(1094, "addYears", 2, 1460, -1);
         // 30 12 2 and 29 12 1, 29 12 3
@@ -292,12 +285,12 @@ final class EdgesOfAdding {
     private static void wholeYears() {
         Due.sentence(9, "From day a to day b: 0 the most YEARS (0 or more) that, added to a, do not come behind b;");
         Twins x = town();
-        int day = dayOf(2001, 5, 6);
-        difference(x, 0, day, dayOf(2002, 5, 5), 0, 11, 29);
-        difference(x, 0, day, dayOf(2002, 5, 6), 1, 0, 0);
-        difference(x, 0, day, dayOf(2002, 5, 7), 1, 0, 1);
-        difference(x, 0, dayOf(2000, 2, 29), dayOf(2001, 2, 27), 0, 11, 29);
-        difference(x, 0, dayOf(2000, 2, 29), dayOf(2001, 2, 28), 1, 0, 0);
+        int day = Dates.dayOf(2001, 5, 6);
+        difference(x, 0, day, Dates.dayOf(2002, 5, 5), 0, 11, 29);
+        difference(x, 0, day, Dates.dayOf(2002, 5, 6), 1, 0, 0);
+        difference(x, 0, day, Dates.dayOf(2002, 5, 7), 1, 0, 1);
+        difference(x, 0, Dates.dayOf(2000, 2, 29), Dates.dayOf(2001, 2, 27), 0, 11, 29);
+        difference(x, 0, Dates.dayOf(2000, 2, 29), Dates.dayOf(2001, 2, 28), 1, 0, 0);
         difference(x, 4, 1092, 1445, 0, 11, 29);
         difference(x, 4, 1092, 1446, 1, 0, 0);
         difference(x, 5, 301, 664, 0, 51, 6);
@@ -312,13 +305,13 @@ final class EdgesOfAdding {
     private static void wholeMonths() {
         Due.sentence(9, "1 the most MONTHS that, added to what comes of that, do not;");
         Twins x = town();
-        difference(x, 0, dayOf(2001, 1, 31), dayOf(2001, 2, 27), 0, 0, 27);
-        difference(x, 0, dayOf(2001, 1, 31), dayOf(2001, 2, 28), 0, 1, 0);
-        difference(x, 0, dayOf(2001, 1, 31), dayOf(2001, 3, 30), 0, 1, 30);
-        difference(x, 0, dayOf(2001, 1, 31), dayOf(2001, 3, 31), 0, 2, 0);
+        difference(x, 0, Dates.dayOf(2001, 1, 31), Dates.dayOf(2001, 2, 27), 0, 0, 27);
+        difference(x, 0, Dates.dayOf(2001, 1, 31), Dates.dayOf(2001, 2, 28), 0, 1, 0);
+        difference(x, 0, Dates.dayOf(2001, 1, 31), Dates.dayOf(2001, 3, 30), 0, 1, 30);
+        difference(x, 0, Dates.dayOf(2001, 1, 31), Dates.dayOf(2001, 3, 31), 0, 2, 0);
         // what comes of a YEAR is 28 2 2001, so 28 3 2001 is a MONTH more
-        difference(x, 0, dayOf(2000, 2, 29), dayOf(2001, 3, 27), 1, 0, 27);
-        difference(x, 0, dayOf(2000, 2, 29), dayOf(2001, 3, 28), 1, 1, 0);
+        difference(x, 0, Dates.dayOf(2000, 2, 29), Dates.dayOf(2001, 3, 27), 1, 0, 27);
+        difference(x, 0, Dates.dayOf(2000, 2, 29), Dates.dayOf(2001, 3, 28), 1, 1, 0);
         // of 29 13 3 comes 29 12 4, and a MONTH more is 29 1 5
         difference(x, 4, 1092, 1474, 1, 0, 28);
         difference(x, 4, 1092, 1475, 1, 1, 0);
@@ -417,10 +410,10 @@ final class EdgesOfAdding {
         Due.sentence(10, "The first day of a YEAR of CALENDAR 0 that is an anniversary of day n by a CALENDAR (0 .. 6): n with some number"
             + " of YEARS (below 0, too) added to it.");
         Twins x = new Twins();
-        int leapDay = dayOf(2000, 2, 29);
-        x.due(leapDay, "birthday", 0, leapDay, 2000).due(dayOf(2001, 2, 28), "birthday", 0, leapDay, 2001);
-        x.due(dayOf(1999, 2, 28), "birthday", 0, leapDay, 1999).due(dayOf(1996, 2, 29), "birthday", 0, leapDay, 1996);
-        x.due(dayOf(2000, 2, 28), "birthday", 0, dayOf(2001, 2, 28), 2000);
+        int leapDay = Dates.dayOf(2000, 2, 29);
+        x.due(leapDay, "birthday", 0, leapDay, 2000).due(Dates.dayOf(2001, 2, 28), "birthday", 0, leapDay, 2001);
+        x.due(Dates.dayOf(1999, 2, 28), "birthday", 0, leapDay, 1999).due(Dates.dayOf(1996, 2, 29), "birthday", 0, leapDay, 1996);
+        x.due(Dates.dayOf(2000, 2, 28), "birthday", 0, Dates.dayOf(2001, 2, 28), 2000);
         // two of them fall into 2002 and 2021: 731158 and 731513, 738100 and 738460
         x.due(731158, "birthday", 3, 100, 2002).due(731158, "birthday", 3, 731513, 2002);
         x.due(738100, "birthday", 6, 100, 2021).due(738100, "birthday", 6, 738460, 2021);
@@ -434,8 +427,8 @@ final class EdgesOfAdding {
         Due.sentence(10, "NONE: there is none in it (within the range).");
         Twins x = new Twins();
         // 1 3 and 29 2 of YEAR 0; 10 1 and 11 1 of YEAR 4107
-        x.due(0, "birthday", 0, dayOf(2000, 3, 1), 0).refused(NONE, "birthday", 0, dayOf(2000, 2, 29), 0);
-        x.due(LAST, "birthday", 0, dayOf(2000, 1, 10), 4107).refused(NONE, "birthday", 0, dayOf(2000, 1, 11), 4107);
+        x.due(0, "birthday", 0, Dates.dayOf(2000, 3, 1), 0).refused(NONE, "birthday", 0, Dates.dayOf(2000, 2, 29), 0);
+        x.due(LAST, "birthday", 0, Dates.dayOf(2000, 1, 10), 4107).refused(NONE, "birthday", 0, Dates.dayOf(2000, 1, 11), 4107);
         int[] lastInZero = {NONE, 284, 284, NONE, NONE, NONE, 240};
         for (int c = 0; c <= 6; c++) {
             x.due(0, "birthday", c, 0, 0).due(lastInZero[c], "birthday", c, LAST, 0);

@@ -104,7 +104,8 @@ final class EdgesOfCalendars {
 
     private static void datesThatAreThere() {
         Due.sentence(2, "A date is THERE, if its YEAR is one (FIRST .. 5000), has the MONTH, and that the day.",
-            "NONE: it is not THERE;", "NONE -2 (there is none, as told)");
+            "NONE: it is not THERE;", "NONE -2 (there is none, as told)",
+            "A CALENDAR has YEARS; a YEAR so many MONTHS (from 1 on); a MONTH so many days (from 1 on);");
         Twins x = new Twins();
         int[] months = {12, 12, 13, 12, 12, 52, 18};
         for (int c = 0; c <= 6; c++) {

@@ -1,6 +1,3 @@
-import java.time.LocalDate;
-import java.time.temporal.ChronoUnit;
-
 /** The edges of promises 15 to 19: FEASTS, their days, and how they are moved. */
 final class EdgesOfFeasts {
     private static final int LAST = 1500000;
@@ -42,10 +39,6 @@ final class EdgesOfFeasts {
         feastOnRefuses();
         feastsOfADay();
         feastsOfTheDaysYear();
-    }
-
-    private static int dayOf(int year, int month, int day) {
-        return (int) ChronoUnit.DAYS.between(LocalDate.of(0, 3, 1), LocalDate.of(year, month, day));
     }
 
     private static void rulesAndRanks() {
@@ -108,7 +101,7 @@ final class EdgesOfFeasts {
         x.due(0, "feast", MOVABLE, -60, 0, 0, 1).due(1, "feast", MOVABLE, 100, 1, 0, 1);
         // c is not looked at
         x.due(2, "feast", MOVABLE, 0, 0, MAX, 1).due(3, "feast", MOVABLE, 0, 1, MIN, 1).due(4, "feast", MOVABLE, 0, 1, -1, 1);
-        int easter = dayOf(2024, 3, 31);
+        int easter = Dates.dayOf(2024, 3, 31);
         x.due(easter, "feastDay", 2, 2024).due(easter - 60, "feastDay", 0, 2024).alike();
     }
 
@@ -125,7 +118,7 @@ final class EdgesOfFeasts {
         // the one that would come is no FEAST yet
         x.refused(BAD, "feast", BEHIND, 1, 0, 0, 1).refused(BAD, "feast", BEHIND, -1, 0, 0, 1);
         x.due(1, "feast", BEHIND, 0, -40, MIN, 1).due(2, "feast", BEHIND, 1, 40, MAX, 1).refused(BAD, "feast", BEHIND, 3, 0, 0, 1);
-        x.due(dayOf(2000, 4, 22), "feastDay", 1, 2000).due(dayOf(2000, 6, 2), "feastDay", 2, 2000);
+        x.due(Dates.dayOf(2000, 4, 22), "feastDay", 1, 2000).due(Dates.dayOf(2000, 6, 2), "feastDay", 2, 2000);
         x.due(2, "undo").refused(BAD, "feast", BEHIND, 2, 0, 0, 1).due(2, "feast", BEHIND, 1, 0, -1, 1).alike();
     }
 
@@ -149,7 +142,7 @@ final class EdgesOfFeasts {
         for (int feast : new int[] {-1, 2, 59, 60, MAX, MIN}) {
             x.refused(BAD, "feastDay", feast, 2000).refused(BAD, "feastDay", feast, -1).refused(BAD, "feastDay", feast, 5001);
         }
-        x.due(dayOf(2000, 5, 5), "feastDay", 0, 2000).due(dayOf(2000, 5, 6), "feastDay", 1, 2000);
+        x.due(Dates.dayOf(2000, 5, 5), "feastDay", 0, 2000).due(Dates.dayOf(2000, 5, 6), "feastDay", 1, 2000);
         x.due(1, "undo").refused(BAD, "feastDay", 1, 2000).alike();
     }
 
@@ -159,7 +152,7 @@ final class EdgesOfFeasts {
         for (int year : NO_YEARS) {
             x.refused(NONE, "feastDay", 0, year);
         }
-        x.due(0, "feastDay", 0, 0).due(dayOf(4106, 3, 1), "feastDay", 0, 4106);
+        x.due(0, "feastDay", 0, 0).due(Dates.dayOf(4106, 3, 1), "feastDay", 0, 4106);
         x.refused(NONE, "feastDay", 0, 4107).refused(NONE, "feastDay", 0, 5000);
         for (int year : new int[] {0, 1, 4, 2000, 4106, 4107, 5000}) {
             x.refused(NONE, "feastDay", 1, year);
@@ -172,9 +165,9 @@ final class EdgesOfFeasts {
             + " date in CALENDAR c (0 .. 6) is day b of MONTH a.");
         Twins x = new Twins().tell("feast", FIXED, 2, 29, 0, 0).tell("feast", FIXED, 12, 31, 0, 0).tell("feast", FIXED, 1, 1, 0, 0);
         x.tell("feast", FIXED, 4, 31, 0, 0).tell("feast", FIXED, 13, 1, 0, 0).tell("feast", FIXED, 1, 32, 0, 0);
-        x.due(dayOf(2000, 2, 29), "feastDay", 0, 2000).refused(NONE, "feastDay", 0, 1900).refused(NONE, "feastDay", 0, 2001);
+        x.due(Dates.dayOf(2000, 2, 29), "feastDay", 0, 2000).refused(NONE, "feastDay", 0, 1900).refused(NONE, "feastDay", 0, 2001);
         for (int year : new int[] {1, 2000, 2001, 4106}) {
-            x.due(dayOf(year, 12, 31), "feastDay", 1, year).due(dayOf(year, 1, 1), "feastDay", 2, year);
+            x.due(Dates.dayOf(year, 12, 31), "feastDay", 1, year).due(Dates.dayOf(year, 1, 1), "feastDay", 2, year);
             x.refused(NONE, "feastDay", 3, year).refused(NONE, "feastDay", 4, year).refused(NONE, "feastDay", 5, year);
         }
         x.alike();
@@ -197,7 +190,7 @@ final class EdgesOfFeasts {
         x.tell("feast", FIXED, 1, 1, 5, 0).due(1764, "feastDay", 5, 4).refused(NONE, "feastDay", 5, 5);
         x.tell("feast", FIXED, 13, 6, 2, 0).due(1095, "feastDay", 6, 3).refused(NONE, "feastDay", 6, 4);
         // 25 12 of 1 lies in the next YEAR from the hundreds on
-        x.tell("feast", FIXED, 12, 25, 1, 0).due(dayOf(2023, 1, 7), "feastDay", 7, 2023);
+        x.tell("feast", FIXED, 12, 25, 1, 0).due(Dates.dayOf(2023, 1, 7), "feastDay", 7, 2023);
         x.alike();
     }
 
@@ -233,8 +226,8 @@ final class EdgesOfFeasts {
             x.due(thursdays[i], "feastDay", 3 * i + 2, 0);
         }
         // MONTH 2 of YEAR 1 has each WEEKDAY four times, that of YEAR 4 its first one five times
-        int first = dayOf(1, 2, 1);
-        int leap = dayOf(4, 2, 1);
+        int first = Dates.dayOf(1, 2, 1);
+        int leap = Dates.dayOf(4, 2, 1);
         for (int w = 0; w < 7; w++) {
             x.tell("feast", WEEKDAY, 2, w, 5, 0).tell("feast", WEEKDAY, 2, w, -1, 0);
             x.refused(NONE, "feastDay", 18 + 2 * w, 1).due(first + 21 + (w - first % 7 + 7) % 7, "feastDay", 19 + 2 * w, 1);
@@ -268,7 +261,7 @@ final class EdgesOfFeasts {
             int at = 5 * style;
             x.due(0, "feastDay", at, 0).refused(NONE, "feastDay", at + 1, 0).due(39, "feastDay", at + 2, 0);
             x.due(139, "feastDay", at + 3, 0).refused(NONE, "feastDay", at + 4, 0);
-            int day = style == 0 ? dayOf(2024, 3, 31) : dayOf(2024, 5, 5);
+            int day = style == 0 ? Dates.dayOf(2024, 3, 31) : Dates.dayOf(2024, 5, 5);
             x.due(day, "feastDay", at + 2, 2024).due(day + 100, "feastDay", at + 3, 2024).due(day - 60, "feastDay", at + 4, 2024);
             for (int feast = at; feast < at + 5; feast++) {
                 x.refused(NONE, "feastDay", feast, 4107).refused(NONE, "feastDay", feast, 5000);
@@ -281,7 +274,7 @@ final class EdgesOfFeasts {
         Due.sentence(16, "3 BEHIND: b days behind the day (as it is ahead of all moving) of FEAST a.");
         Twins x = new Twins().tell("feast", FIXED, 12, 25, 0, 5).tell("feast", FIXED, 12, 25, 0, 9);
         x.tell("feast", BEHIND, 0, 40, 0, 0).tell("feast", BEHIND, 0, -40, 0, 0).tell("feast", BEHIND, 0, 0, 0, 0);
-        int day = dayOf(2000, 12, 25);
+        int day = Dates.dayOf(2000, 12, 25);
         // FEAST 0 is moved by a day, what is behind it is not
         x.due(day + 1, "feastDay", 0, 2000).due(day + 40, "feastDay", 2, 2000).due(day - 40, "feastDay", 3, 2000);
         x.due(day, "feastDay", 4, 2000);
@@ -296,12 +289,12 @@ final class EdgesOfFeasts {
         Twins x = new Twins();
         x.tell("feast", FIXED, 3, 1, 0, 0).tell("feast", BEHIND, 0, -1, 0, 0).tell("feast", BEHIND, 1, 1, 0, 0);
         x.due(0, "feastDay", 0, 0).refused(NONE, "feastDay", 1, 0).refused(NONE, "feastDay", 2, 0);
-        x.due(dayOf(1, 2, 28), "feastDay", 1, 1).due(dayOf(1, 3, 1), "feastDay", 2, 1);
+        x.due(Dates.dayOf(1, 2, 28), "feastDay", 1, 1).due(Dates.dayOf(1, 3, 1), "feastDay", 2, 1);
         x.tell("feast", FIXED, 1, 10, 0, 0).tell("feast", BEHIND, 3, 1, 0, 0).tell("feast", BEHIND, 4, -1, 0, 0);
         x.due(LAST, "feastDay", 3, 4107).refused(NONE, "feastDay", 4, 4107).refused(NONE, "feastDay", 5, 4107);
         x.due(LAST - 364, "feastDay", 4, 4106).due(LAST - 365, "feastDay", 5, 4106);
         x.tell("feast", FIXED, 2, 29, 0, 0).tell("feast", BEHIND, 6, 1, 0, 0);
-        x.due(dayOf(2000, 3, 1), "feastDay", 7, 2000).refused(NONE, "feastDay", 7, 2001).refused(NONE, "feastDay", 7, 0);
+        x.due(Dates.dayOf(2000, 3, 1), "feastDay", 7, 2000).refused(NONE, "feastDay", 7, 2001).refused(NONE, "feastDay", 7, 0);
         // 1 1 4107 and 9 days is the last day
         x.tell("feast", FIXED, 1, 1, 0, 0).tell("feast", BEHIND, 8, 9, 0, 0).tell("feast", BEHIND, 8, 10, 0, 0);
         x.due(LAST, "feastDay", 9, 4107).refused(NONE, "feastDay", 10, 4107).alike();
@@ -311,8 +304,8 @@ final class EdgesOfFeasts {
         Due.sentence(16, "or lie in another YEAR;");
         Twins x = new Twins().tell("feast", FIXED, 12, 31, 0, 1).tell("feast", BEHIND, 0, 1, 0, 1).tell("feast", FIXED, 1, 1, 0, 1);
         x.tell("feast", BEHIND, 2, -1, 0, 1);
-        x.due(dayOf(2001, 1, 1), "feastDay", 1, 2000).due(dayOf(2000, 1, 1), "feastDay", 2, 2000);
-        x.due(dayOf(1999, 12, 31), "feastDay", 3, 2000);
+        x.due(Dates.dayOf(2001, 1, 1), "feastDay", 1, 2000).due(Dates.dayOf(2000, 1, 1), "feastDay", 2, 2000);
+        x.due(Dates.dayOf(1999, 12, 31), "feastDay", 3, 2000);
         // of YEAR 4106 into 4107, and of YEAR 1 into 0
         x.due(LAST - 9, "feastDay", 1, 4106).due(305, "feastDay", 3, 1);
         // it takes no day from the FEASTS of the YEAR in which it lies
@@ -325,7 +318,7 @@ final class EdgesOfFeasts {
         for (int rank : new int[] {0, 0, 9, 1, 0}) {
             x.tell("feast", FIXED, 7, 10, 0, rank);
         }
-        int day = dayOf(1999, 7, 10);
+        int day = Dates.dayOf(1999, 7, 10);
         int[] due = {day, day, day, day + 1, day};
         for (int i = 0; i < due.length; i++) {
             x.due(due[i], "feastDay", i, 1999);
@@ -340,7 +333,7 @@ final class EdgesOfFeasts {
         for (int rank : new int[] {1, 9, 8, 9, 1, 2}) {
             x.tell("feast", FIXED, 7, 10, 0, rank);
         }
-        int day = dayOf(1999, 7, 10);
+        int day = Dates.dayOf(1999, 7, 10);
         int[] due = {4, 0, 2, 1, 5, 3};
         for (int i = 0; i < due.length; i++) {
             x.due(day + due[i], "feastDay", i, 1999).due(due[i], "moved", i, 1999);
@@ -354,7 +347,7 @@ final class EdgesOfFeasts {
         // 10, 11 and 13 are taken by greater ones: of two more on 10 one comes to 12, the other one to 14
         x.tell("feast", FIXED, 7, 10, 0, 9).tell("feast", FIXED, 7, 11, 0, 9).tell("feast", FIXED, 7, 13, 0, 9);
         x.tell("feast", FIXED, 7, 10, 0, 1).tell("feast", FIXED, 7, 10, 0, 1).tell("feast", FIXED, 7, 9, 0, 1);
-        int day = dayOf(1999, 7, 10);
+        int day = Dates.dayOf(1999, 7, 10);
         int[] due = {0, 1, 3, 2, 4, -1};
         for (int i = 0; i < due.length; i++) {
             x.due(day + due[i], "feastDay", i, 1999);
@@ -366,7 +359,7 @@ final class EdgesOfFeasts {
         for (int i = 0; i < 60; i++) {
             x.tell("feast", FIXED, 12, 25, 0, 1);
         }
-        x.due(dayOf(2000, 12, 25) + 59, "feastDay", 59, 2000).due(59, "moved", 59, 2000).due(0, "moved", 0, 2000).alike();
+        x.due(Dates.dayOf(2000, 12, 25) + 59, "feastDay", 59, 2000).due(59, "moved", 59, 2000).due(0, "moved", 0, 2000).alike();
     }
 
     private static void movedBeyondTheRange() {
@@ -414,7 +407,7 @@ final class EdgesOfFeasts {
             x.due(39, "movable", style, 0).refused(OUTSIDE, "movable", style, 4107).refused(OUTSIDE, "movable", style, 5000);
         }
         int day = x.ask("movable", 0, 4106);
-        Due.yes("movable(0, 4106)", day >= dayOf(4106, 3, 22) && day <= dayOf(4106, 4, 25));
+        Due.yes("movable(0, 4106)", day >= Dates.dayOf(4106, 3, 22) && day <= Dates.dayOf(4106, 4, 25));
         Due.yes("movable(1, 4106)", x.ask("movable", 1, 4106) > day);
         x.alike();
     }
@@ -429,7 +422,7 @@ final class EdgesOfFeasts {
             {1954, 4, 18}, {1981, 4, 19}, {2049, 4, 18}, {2076, 4, 19}, {2106, 4, 18}, {1609, 4, 19}, {1899, 4, 2}, {1900, 4, 15},
             {2000, 4, 23}, {2100, 3, 28}};
         for (int[] k : known) {
-            x.due(dayOf(k[0], k[1], k[2]), "movable", 0, k[0]);
+            x.due(Dates.dayOf(k[0], k[1], k[2]), "movable", 0, k[0]);
         }
         x.due(39, "movable", 0, 0).due(396, "movable", 0, 1).alike();
     }
@@ -442,7 +435,7 @@ final class EdgesOfFeasts {
         // in CALENDAR 0: 4 4 2010 to 8 5 1983 in these hundreds
         int[][] known = {{2010, 4, 4}, {1983, 5, 8}, {2021, 5, 2}, {2024, 5, 5}, {2025, 4, 20}, {2023, 4, 16}, {2013, 5, 5}, {1915, 4, 4}};
         for (int[] k : known) {
-            x.due(dayOf(k[0], k[1], k[2]), "movable", 1, k[0]);
+            x.due(Dates.dayOf(k[0], k[1], k[2]), "movable", 1, k[0]);
         }
         // 22 3 414 and 25 4 672, as CALENDAR 1 tells them
         int least = x.ask("toDay", 1, 414, 3, 22);
@@ -478,7 +471,7 @@ final class EdgesOfFeasts {
             x.tell("feast", FIXED, 7, 10, 0, 0);
         }
         x.tell("feast", FIXED, 7, 9, 0, 9);
-        int day = dayOf(1999, 7, 10);
+        int day = Dates.dayOf(1999, 7, 10);
         x.due(29, "feastOn", day, 0).due(0, "feastOn", day, 1).due(28, "feastOn", day, 29).due(30, "feastOn", day, 30);
         x.due(58, "feastOn", day, 58).refused(NONE, "feastOn", day, 59).due(59, "feastOn", day - 1, 0).alike();
     }
@@ -487,7 +480,7 @@ final class EdgesOfFeasts {
         Due.sentence(19, "(of the YEAR in which n is),");
         Twins x = new Twins().tell("feast", FIXED, 12, 31, 0, 9).tell("feast", FIXED, 12, 31, 0, 8).tell("feast", FIXED, 1, 1, 0, 0);
         x.tell("feast", BEHIND, 2, -1, 0, 0);
-        int day = dayOf(2001, 1, 1);
+        int day = Dates.dayOf(2001, 1, 1);
         // FEAST 1 of 2000 is moved to 1 1 2001, FEAST 3 of 2001 lies on 31 12 2000
         x.due(day, "feastDay", 1, 2000).due(day - 1, "feastDay", 3, 2001);
         x.due(2, "feastOn", day, 0).refused(NONE, "feastOn", day, 1).due(0, "feastOn", day - 1, 0).refused(NONE, "feastOn", day - 1, 1);
