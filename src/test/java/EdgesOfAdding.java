@@ -14,6 +14,7 @@ final class EdgesOfAdding {
         addMonthsRefusesDays();
         monthsAreCut();
         monthsTurn();
+        monthsTurnInEveryYear();
         monthsThatAreNotThere();
         monthsBeyondTheRange();
         mostYears();
@@ -125,6 +126,23 @@ final class EdgesOfAdding {
         x.due(308, "addMonths", 5, 301, 1).due(301, "addMonths", 5, 308, -1).due(672, "addMonths", 5, 665, 1);
         x.due(360, "addMonths", 6, 340, 1).due(340, "addMonths", 6, 360, -1);
         x.due(2140, "addMonths", 7, 2130, 1).due(2130, "addMonths", 7, 2140, -1).due(2143, "addMonths", 7, 2000, 11);
+        x.alike();
+    }
+
+    private static void monthsTurnInEveryYear() {
+        Due.sentence(7, "day follows day, MONTH MONTH, YEAR YEAR.");
+        Twins x = new Twins();
+        int[] first = {1, 1, 1, 1, 1, 1, 0};
+        int[] last = {4106, 4105, 4106, 4232, 4106, 4106, 4165};
+        for (int c = 0; c <= 6; c++) {
+            for (int year = first[c]; year <= last[c]; year++) {
+                int months = x.ask("months", c, year);
+                int end = x.ask("toDay", c, year, months, 1);
+                int start = x.ask("toDay", c, year + 1, 1, 1);
+                x.due(start, "addMonths", c, end, 1).due(end, "addMonths", c, start, -1);
+                x.due(start, "addMonths", c, x.ask("toDay", c, year, 1, 1), months);
+            }
+        }
         x.alike();
     }
 

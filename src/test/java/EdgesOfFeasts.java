@@ -295,9 +295,14 @@ final class EdgesOfFeasts {
         x.due(LAST - 364, "feastDay", 4, 4106).due(LAST - 365, "feastDay", 5, 4106);
         x.tell("feast", FIXED, 2, 29, 0, 0).tell("feast", BEHIND, 6, 1, 0, 0);
         x.due(Dates.dayOf(2000, 3, 1), "feastDay", 7, 2000).refused(NONE, "feastDay", 7, 2001).refused(NONE, "feastDay", 7, 0);
+        // nor has one that is far behind none a day
+        x.tell("feast", BEHIND, 6, 40, 0, 0).tell("feast", BEHIND, 6, 2, 0, 0).tell("feast", BEHIND, 6, 3, 0, 0);
+        for (int year : new int[] {0, 1, 2001, 4106, 4107, 5000}) {
+            x.refused(NONE, "feastDay", 8, year).refused(NONE, "feastDay", 9, year).refused(NONE, "feastDay", 10, year);
+        }
         // 1 1 4107 and 9 days is the last day
-        x.tell("feast", FIXED, 1, 1, 0, 0).tell("feast", BEHIND, 8, 9, 0, 0).tell("feast", BEHIND, 8, 10, 0, 0);
-        x.due(LAST, "feastDay", 9, 4107).refused(NONE, "feastDay", 10, 4107).alike();
+        x.tell("feast", FIXED, 1, 1, 0, 0).tell("feast", BEHIND, 11, 9, 0, 0).tell("feast", BEHIND, 11, 10, 0, 0);
+        x.due(LAST, "feastDay", 12, 4107).refused(NONE, "feastDay", 13, 4107).alike();
     }
 
     private static void daysInAnotherYear() {
@@ -424,7 +429,31 @@ final class EdgesOfFeasts {
         for (int[] k : known) {
             x.due(Dates.dayOf(k[0], k[1], k[2]), "movable", 0, k[0]);
         }
+        for (int year = 1; year <= 4106; year++) {
+            x.due(easter(year), "movable", 0, year);
+        }
         x.due(39, "movable", 0, 0).due(396, "movable", 0, 1).alike();
+    }
+
+    /** Another, anonymous formula for the same day. */
+    private static int easter(int year) {
+        int a = year % 19;
+        int b = year / 100;
+        int c = year % 100;
+        int d = (19 * a + b - b / 4 - (b - (b + 8) / 25 + 1) / 3 + 15) % 30;
+        int e = (32 + 2 * (b % 4) + 2 * (c / 4) - d - c % 4) % 7;
+        int f = d + e - 7 * ((a + 11 * d + 22 * e) / 451) + 114;
+        return Dates.dayOf(year, f / 31, f % 31 + 1);
+    }
+
+    /** And one for the other style: its first full moon behind 20 3, then the next Sunday. */
+    private static int oldEaster(Twins x, int year) {
+        int a = year % 4;
+        int b = year % 7;
+        int c = year % 19;
+        int d = (19 * c + 15) % 30;
+        int e = (2 * a + 4 * b - d + 34) % 7;
+        return x.ask("toDay", 1, year, (d + e + 114) / 31, (d + e + 114) % 31 + 1);
     }
 
     private static void oldMovableExtremes() {
@@ -440,6 +469,9 @@ final class EdgesOfFeasts {
         // 22 3 414 and 25 4 672, as CALENDAR 1 tells them
         int least = x.ask("toDay", 1, 414, 3, 22);
         int most = x.ask("toDay", 1, 672, 4, 25);
+        for (int year = 0; year <= 4106; year++) {
+            x.due(oldEaster(x, year), "movable", 1, year);
+        }
         x.due(39, "movable", 1, 0).due(389, "movable", 1, 1).due(most, "movable", 1, 672).due(least, "movable", 1, 414).alike();
     }
 

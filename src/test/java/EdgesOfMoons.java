@@ -91,7 +91,10 @@ final class EdgesOfMoons {
         x.due(22.283599438966384, "estimate", LAST).due(21.318213757507245, "estimate", LAST - 1);
         x.due(-0.17229922815355023, "estimate", 319285).due(0.040418612868718035, "estimate", 1084718);
         x.due(29.495479981724404, "estimate", 219383).due(29.29694969076129, "estimate", 984816);
-        x.due(-0.5937750147389899, "estimate", 1290310).due(30.127969870557276, "estimate", 1005576).alike();
+        x.due(-0.5937750147389899, "estimate", 1290310).due(30.127969870557276, "estimate", 1005576);
+        // here a WAVE that begins a whole turn aside is rounded otherwise
+        x.due(0.14611121371612712, "estimate", 1005).due(0.42767630012309876, "estimate", 2038);
+        x.due(8.406768703192437, "estimate", 1043561).alike();
     }
 
     /** The steps in decimals that lose nothing, then the nearest double of each. */

@@ -29,6 +29,7 @@ final class EdgesOfParishes {
         bridges();
         bridgesBearNoBridge();
         bridgesOverYears();
+        bridgesByFartherYears();
         bridgesAtTheEndsOfTheRange();
         workedDays();
         workedBackwards();
@@ -330,6 +331,24 @@ final class EdgesOfParishes {
         x.alike();
     }
 
+    private static void bridgesByFartherYears() {
+        Due.sentence(26, "the days before it and behind it both are FREE.", "the one before, or the next one");
+        // 1 1 2001 is FREE by a FEAST of 2002, 31 12 2001 by one of 2000: days of 2000 and 2002 lean on them
+        Twins x = new Twins().tell("parish", 0, true).tell("parish", 0, true);
+        x.tell("feast", FIXED, 12, 30, 0, 0).tell("feast", FIXED, 1, 2, 0, 0);
+        for (int i = 0; i < 9; i++) {
+            x.tell("feast", BEHIND, 2 * i, 40, 0, 0).tell("feast", BEHIND, 2 * i + 1, -40, 0, 0);
+        }
+        x.tell("feast", BEHIND, 18, 6, 0, 0).tell("feast", BEHIND, 19, -6, 0, 0);
+        x.tell("rule", 0, 21, 0, 0).tell("rule", 0, 0, 0, 0).tell("rule", 1, 20, 0, 0).tell("rule", 1, 1, 0, 0);
+        int start = Dates.dayOf(2001, 1, 1);
+        int end = Dates.dayOf(2001, 12, 31);
+        x.due(start, "feastDay", 21, 2002).due(end, "feastDay", 20, 2000);
+        x.due(1, "isOff", 0, start - 1).due(1, "isOff", 1, end + 1).due(0, "worked", 0, start - 1, start - 1);
+        x.due(0, "worked", 1, end + 1, end + 1).due(start - 1, "nextOff", 0, start - 2).due(end + 1, "nextOff", 1, end);
+        x.alike();
+    }
+
     private static void bridgesAtTheEndsOfTheRange() {
         Due.sentence(26, "DAYS have numbers 0 .. 1500000;");
         // day 0 is a Monday, the last one a Saturday: what lies beyond them is no day, and not FREE
@@ -376,6 +395,15 @@ final class EdgesOfParishes {
         x.refused(BAD, "worked", 0, -1, 799).refused(OUTSIDE, "worked", 0, -1, 798).refused(BAD, "worked", 0, LAST - 799, LAST + 1);
         x.refused(BAD, "worked", 0, MIN, MAX).refused(BAD, "worked", 0, 0, MAX).refused(BAD, "worked", 0, MIN, 0);
         x.refused(BAD, "worked", 0, MIN, MIN + 800).refused(BAD, "worked", 0, MAX - 800, MAX).refused(BAD, "worked", 0, -1, MAX);
+        // with a bridge's day at either end, borne by a day beyond it
+        x.tell("parish", 0b0000101, true);
+        for (int from = 1100; from < 1107; from++) {
+            int due = 0;
+            for (int n = from; n < from + 800; n++) {
+                due += n % 7 > 2 ? 1 : 0;
+            }
+            x.due(due, "worked", 1, from, from + 799);
+        }
         // over three YEARS, with a FEAST in each of them
         x.tell("feast", FIXED, 7, 1, 0, 1).tell("rule", 0, 0, 10, 10);
         int day = Dates.dayOf(2000, 7, 1);

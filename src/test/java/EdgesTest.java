@@ -13,6 +13,7 @@ public final class EdgesTest {
         EdgesOfBooks.run();
         EdgesOfLaidDown.run();
         Sentences.areTested();
+        Twins.extremesWereAsked();
         Due.end("EdgesTest");
     }
 }

@@ -1,7 +1,10 @@
 import java.lang.reflect.InvocationTargetException;
 import java.lang.reflect.Method;
+import java.lang.reflect.Modifier;
 import java.util.HashMap;
+import java.util.HashSet;
 import java.util.Map;
+import java.util.Set;
 
 /**
  * Two houses. Both are told what is accepted, only one of them what is refused:
@@ -12,10 +15,41 @@ final class Twins {
     private static final int[] YEARS = {0, 1, 2000, 2001, 4106, 4107, 5000};
     private static final long[] FAR_WORDS = {Long.MIN_VALUE, Long.MAX_VALUE, -1, 1L << 32, (1L << 32) + 5};
     private static final Map<String, Method> FACE = new HashMap<>();
+    /** Which calls got the greatest or the least number, and at which place. */
+    private static final Set<String> EXTREMES = new HashSet<>();
 
     static {
         for (Method m : AlmanacHouse.class.getDeclaredMethods()) {
-            FACE.put(m.getName(), m);
+            if (Modifier.isPublic(m.getModifiers())) {
+                FACE.put(m.getName(), m);
+            }
+        }
+    }
+
+    /** Of each number that a call of the face takes the greatest and the least one must have been handed over. */
+    static void extremesWereAsked() {
+        for (Method m : FACE.values()) {
+            for (int i = 0; i < m.getParameterCount(); i++) {
+                Class<?> type = m.getParameterTypes()[i];
+                Object most = type == int.class ? (Object) Integer.MAX_VALUE : Long.MAX_VALUE;
+                Object least = type == int.class ? (Object) Integer.MIN_VALUE : Long.MIN_VALUE;
+                boolean both = EXTREMES.contains(place(m.getName(), i, most)) && EXTREMES.contains(place(m.getName(), i, least));
+                Due.yes(m.getName() + "() was asked with the greatest and the least number " + (i + 1), type == boolean.class || both);
+            }
+        }
+    }
+
+    private static String place(String call, int argument, Object value) {
+        return call + " " + argument + " " + value;
+    }
+
+    private static void keepExtremes(String call, Object... arguments) {
+        for (int i = 0; i < arguments.length; i++) {
+            Object value = arguments[i];
+            if (value.equals(Integer.MAX_VALUE) || value.equals(Integer.MIN_VALUE)
+                || value.equals(Long.MAX_VALUE) || value.equals(Long.MIN_VALUE)) {
+                EXTREMES.add(place(call, i, value));
+            }
         }
     }
 
@@ -75,6 +109,7 @@ final class Twins {
     }
 
     private static double answer(AlmanacHouse house, String call, Object... arguments) {
+        keepExtremes(call, arguments);
         try {
             return ((Number) FACE.get(call).invoke(house, arguments)).doubleValue();
         } catch (InvocationTargetException e) {
