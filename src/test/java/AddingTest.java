@@ -7,7 +7,7 @@ public final class AddingTest {
     private static final int BAD = AlmanacHouse.BAD, NONE = AlmanacHouse.NONE, OUTSIDE = AlmanacHouse.OUTSIDE;
 
     public static void main(String[] args) {
-        AlmanacHouse x = new AlmanacHouse();
+        House x = new House();
         agreesWithIsoDates(x);
         monthsAndYears(x);
         addingRefuses(x);
@@ -28,7 +28,7 @@ public final class AddingTest {
         return n < 0 || n > 1500000 ? OUTSIDE : (int) n;
     }
 
-    private static void agreesWithIsoDates(AlmanacHouse x) {
+    private static void agreesWithIsoDates(House x) {
         for (int n = 0; n <= 1500000; n += 1009) {
             LocalDate date = DAY_ZERO.plusDays(n);
             for (int k : new int[] {-1, 1, 11, 12, 13, -25, 600, -48000}) {
@@ -40,7 +40,7 @@ public final class AddingTest {
         }
     }
 
-    private static void monthsAndYears(AlmanacHouse x) {
+    private static void monthsAndYears(House x) {
         int jan31 = dayOf(2024, 1, 31);
         Due.is("31 1 2024 and a MONTH", x.addMonths(0, jan31, 1), dayOf(2024, 2, 29));
         Due.is("31 1 2024 and 13 MONTHS", x.addMonths(0, jan31, 13), dayOf(2025, 2, 28));
@@ -64,7 +64,7 @@ public final class AddingTest {
         Due.is("29 2 1900 of 1 and 100 YEARS", x.addYears(1, x.toDay(1, 1900, 2, 29), 100), x.toDay(1, 2000, 2, 29));
     }
 
-    private static void addingRefuses(AlmanacHouse x) {
+    private static void addingRefuses(House x) {
         Due.is("addMonths(8, -1, 0)", x.addMonths(8, -1, 0), BAD);
         Due.is("addMonths(-1, 0, 0)", x.addMonths(-1, 0, 0), BAD);
         Due.is("addMonths(0, -1, 60001)", x.addMonths(0, -1, 60001), BAD);
@@ -96,14 +96,14 @@ public final class AddingTest {
         Due.is("addYears(0, 0, 4106)", x.addYears(0, 0, 4106), dayOf(4106, 3, 1));
     }
 
-    private static void difference(AlmanacHouse x, int c, int a, int b, int years, int months, int days) {
+    private static void difference(House x, int c, int a, int b, int years, int months, int days) {
         String call = "difference(" + c + ", " + a + ", " + b + ", ";
         Due.is(call + "0)", x.difference(c, a, b, 0), years);
         Due.is(call + "1)", x.difference(c, a, b, 1), months);
         Due.is(call + "2)", x.difference(c, a, b, 2), days);
     }
 
-    private static void differences(AlmanacHouse x) {
+    private static void differences(House x) {
         difference(x, 0, 7, 7, 0, 0, 0);
         difference(x, 0, 7, 8, 0, 0, 1);
         difference(x, 0, dayOf(2000, 2, 29), dayOf(2001, 2, 28), 1, 0, 0);
@@ -122,7 +122,7 @@ public final class AddingTest {
         difference(x, 4, last, x.toDay(4, 4, 12, 28), 0, 11, 29);
     }
 
-    private static void differenceRefuses(AlmanacHouse x) {
+    private static void differenceRefuses(House x) {
         Due.is("difference(8, 0, -1, 9)", x.difference(8, 0, -1, 9), BAD);
         Due.is("difference(0, 0, 5, -1)", x.difference(0, 0, 5, -1), BAD);
         Due.is("difference(0, 0, 5, 3)", x.difference(0, 0, 5, 3), BAD);
@@ -133,7 +133,7 @@ public final class AddingTest {
         Due.is("difference(0, MIN, MAX, 0)", x.difference(0, Integer.MIN_VALUE, Integer.MAX_VALUE, 0), OUTSIDE);
     }
 
-    private static void birthdays(AlmanacHouse x) {
+    private static void birthdays(House x) {
         int leapDay = dayOf(2000, 2, 29);
         Due.is("29 2 in 2001", x.birthday(0, leapDay, 2001), dayOf(2001, 2, 28));
         Due.is("29 2 in 2000", x.birthday(0, leapDay, 2000), leapDay);
@@ -159,7 +159,7 @@ public final class AddingTest {
         Due.is("birthday(6, 306, 1)", x.birthday(6, 306, 1), 306);
     }
 
-    private static void birthdayRefuses(AlmanacHouse x) {
+    private static void birthdayRefuses(House x) {
         Due.is("birthday(7, -1, -1)", x.birthday(7, -1, -1), BAD);
         Due.is("birthday(-1, -1, -1)", x.birthday(-1, -1, -1), BAD);
         Due.is("birthday(8, -1, -1)", x.birthday(8, -1, -1), BAD);
@@ -170,7 +170,7 @@ public final class AddingTest {
     }
 
     private static void town() {
-        AlmanacHouse x = new AlmanacHouse();
+        House x = new House();
         int[] lengths = {30, 10, 20, 5, 40, 1, 7, 8, 9, 10, 3, 50};
         int first = 2000;
         for (int length : lengths) {

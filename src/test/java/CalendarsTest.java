@@ -12,7 +12,7 @@ public final class CalendarsTest {
     private static final int BAD = AlmanacHouse.BAD, NONE = AlmanacHouse.NONE, OUTSIDE = AlmanacHouse.OUTSIDE;
 
     public static void main(String[] args) {
-        AlmanacHouse x = new AlmanacHouse();
+        House x = new House();
         agreesWithIsoDates(x);
         weeksByThursdays(x);
         agreesWithJulianDates(x);
@@ -31,7 +31,7 @@ public final class CalendarsTest {
         return (int) ChronoUnit.DAYS.between(DAY_ZERO, date);
     }
 
-    private static void agreesWithIsoDates(AlmanacHouse x) {
+    private static void agreesWithIsoDates(House x) {
         for (int n = 0; n <= LAST; n += 37) {
             LocalDate date = DAY_ZERO.plusDays(n);
             Due.is("fromDay(0, " + n + ", 0)", x.fromDay(0, n, 0), date.getYear());
@@ -47,7 +47,7 @@ public final class CalendarsTest {
     }
 
     /** The document's WEEKDAY is the number's rest, so the true weeks of java.time are others. */
-    private static void weeksByThursdays(AlmanacHouse x) {
+    private static void weeksByThursdays(House x) {
         int thursdays = 9;
         int year = 0;
         for (int monday = 0; monday + 6 <= LAST; monday += 7) {
@@ -67,7 +67,7 @@ public final class CalendarsTest {
         Due.is("monthLength(5, 5000, 52)", x.monthLength(5, 5000, 52), 7);
     }
 
-    private static void agreesWithJulianDates(AlmanacHouse x) {
+    private static void agreesWithJulianDates(House x) {
         GregorianCalendar julian = new GregorianCalendar(TimeZone.getTimeZone("UTC"));
         julian.setGregorianChange(new Date(Long.MAX_VALUE));
         for (int n = 400; n <= LAST; n += 997) {
@@ -79,7 +79,7 @@ public final class CalendarsTest {
     }
 
     /** Every MONTH of every YEAR, against the lists of SlowHouse. */
-    private static void agreesWithTheListedMonths(AlmanacHouse x) {
+    private static void agreesWithTheListedMonths(House x) {
         SlowHouse slow = new SlowHouse();
         for (int c = 0; c <= 6; c++) {
             for (int year = 0; year <= 5000; year++) {
@@ -95,7 +95,7 @@ public final class CalendarsTest {
         }
     }
 
-    private static void datesComeBack(AlmanacHouse x) {
+    private static void datesComeBack(House x) {
         for (int c = 0; c <= 6; c++) {
             for (int n = 0; n <= LAST; n += n < 2000 || n > LAST - 2000 ? 1 : 331) {
                 int year = x.fromDay(c, n, 0);
@@ -116,7 +116,7 @@ public final class CalendarsTest {
         }
     }
 
-    private static void firstDays(AlmanacHouse x) {
+    private static void firstDays(House x) {
         Due.is("toDay(0, 0, 3, 1)", x.toDay(0, 0, 3, 1), 0);
         Due.is("toDay(1, 0, 3, 3)", x.toDay(1, 0, 3, 3), 0);
         Due.is("toDay(2, 1, 1, 1)", x.toDay(2, 1, 1, 1), 0);
@@ -132,7 +132,7 @@ public final class CalendarsTest {
         Due.is("fromDay(5, 8, 4)", x.fromDay(5, 8, 4), 0);
     }
 
-    private static void leapDays(AlmanacHouse x) {
+    private static void leapDays(House x) {
         int[] years = {0, 4, 100, 400, 1900, 2000, 2100, 5000};
         int[] gregorian = {29, 29, 28, 29, 28, 29, 28, 28};
         for (int i = 0; i < years.length; i++) {
@@ -157,7 +157,7 @@ public final class CalendarsTest {
         Due.is("toDay(3, 31, 1, 1)", x.toDay(3, 31, 1, 1), 10631);
     }
 
-    private static void countedMoonYears(AlmanacHouse x) {
+    private static void countedMoonYears(House x) {
         for (int year = 1; year <= 4107; year++) {
             int start = x.toDay(4, year, 1, 1);
             int weekday = start % 7;
@@ -181,7 +181,7 @@ public final class CalendarsTest {
         Due.is("yearLength(4, 5000)", x.yearLength(4, 5000), 383);
     }
 
-    private static void roundNamesAndCounts(AlmanacHouse x) {
+    private static void roundNamesAndCounts(House x) {
         for (int n = 0; n < 300; n++) {
             Due.is("fromDay(6, " + n + ", 3)", x.fromDay(6, n, 3), (n + 7) % 20);
             Due.is("fromDay(6, " + n + ", 4)", x.fromDay(6, n, 4), (n + 3) % 13 + 1);
@@ -191,7 +191,7 @@ public final class CalendarsTest {
         Due.is("fromDay(6, 360, 0)", x.fromDay(6, 360, 0), 1);
     }
 
-    private static void refusals(AlmanacHouse x) {
+    private static void refusals(House x) {
         for (int c : new int[] {-1, 8, Integer.MAX_VALUE, Integer.MIN_VALUE}) {
             Due.is("toDay calendar " + c, x.toDay(c, 9999, 0, 0), BAD);
             Due.is("fromDay calendar " + c, x.fromDay(c, -1, 0), BAD);
@@ -227,7 +227,7 @@ public final class CalendarsTest {
     }
 
     private static void townDates() {
-        AlmanacHouse x = new AlmanacHouse();
+        House x = new House();
         for (int i = 0; i < 13; i++) {
             x.row(103 + 5 * i, 5);
         }

@@ -70,8 +70,14 @@ final class EdgesOfBooks {
         int[] head = {year >> 8 & 255, year & 255, days.length >> 8, days.length & 255};
         System.arraycopy(head, 0, bytes, 0, 4);
         System.arraycopy(days, 0, bytes, 4, days.length);
-        for (int b : bytes) {
-            x.tell("load", b, 1);
+        // four at a time, as an object is to be used for 512 calls at most
+        for (int i = 0; i < bytes.length; i += 4) {
+            int many = Math.min(4, bytes.length - i);
+            int value = 0;
+            for (int b = i; b < i + many; b++) {
+                value = value << 8 | bytes[b] & 255;
+            }
+            x.tell("load", value, many);
         }
         x.tell("load", (int) sum(bytes), 4);
     }

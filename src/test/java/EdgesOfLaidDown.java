@@ -286,14 +286,22 @@ final class EdgesOfLaidDown {
         x.due(3, "count", 6).alike();
     }
 
+    /** Not all of one object: to fill it whole takes more calls than it is to be used for. */
     private static void fullCounts() {
         Due.sentence(39, "How many:");
         Twins x = new Twins();
-        for (int i = 0; i < 300; i++) {
-            x.tell("name", i / 150, 1 + i % 150 / 3, 1L + i).tell("load", i, 4);
-        }
         for (int i = 0; i < 500; i++) {
             x.tell("row", i, 1);
+        }
+        countsAre(x, 500, 0, 0, 0, 0, 100, 0);
+        x = new Twins();
+        for (int i = 0; i < 300; i++) {
+            x.tell("name", i / 150, 1 + i % 150 / 3, 1L + i);
+        }
+        countsAre(x, 0, 300, 0, 0, 0, 100, 0);
+        x = new Twins();
+        for (int i = 0; i < 300; i++) {
+            x.tell("load", i, 4);
         }
         for (int i = 0; i < 60; i++) {
             x.tell("feast", FIXED, 1, 1, 0, i % 10);
@@ -304,7 +312,10 @@ final class EdgesOfLaidDown {
             }
             x.tell("rule", i % 8, i, 0, 0);
         }
-        int[] due = {500, 300, 60, 8, 48, 100, 1200};
+        countsAre(x, 0, 0, 60, 8, 48, 100, 1200);
+    }
+
+    private static void countsAre(Twins x, int... due) {
         for (int what = 0; what <= 6; what++) {
             x.due(due[what], "count", what);
         }

@@ -27,12 +27,12 @@ public final class FeastsTest {
         return (int) ChronoUnit.DAYS.between(DAY_ZERO, LocalDate.of(year, month, day));
     }
 
-    private static void bad(AlmanacHouse x, int rule, int a, int b, int c, int rank) {
+    private static void bad(House x, int rule, int a, int b, int c, int rank) {
         Due.is("feast(" + rule + ", " + a + ", " + b + ", " + c + ", " + rank + ")", x.feast(rule, a, b, c, rank), BAD);
     }
 
     private static void feastRefuses() {
-        AlmanacHouse x = new AlmanacHouse();
+        House x = new House();
         bad(x, -1, 1, 1, 1, 1);
         bad(x, 4, 1, 1, 1, 1);
         bad(x, Integer.MIN_VALUE, 1, 1, 1, 1);
@@ -77,7 +77,7 @@ public final class FeastsTest {
     }
 
     private static void feastsAreFull() {
-        AlmanacHouse x = new AlmanacHouse();
+        House x = new House();
         for (int i = 0; i < 60; i++) {
             Due.is("feast " + i, x.feast(0, 5, 1, 0, 3), i);
         }
@@ -93,7 +93,7 @@ public final class FeastsTest {
     }
 
     private static void fixedDays() {
-        AlmanacHouse x = new AlmanacHouse();
+        House x = new House();
         int christmas = x.feast(0, 12, 25, 0, 0);
         int leapDay = x.feast(0, 2, 29, 0, 0);
         int julian = x.feast(0, 12, 25, 1, 0);
@@ -131,7 +131,7 @@ public final class FeastsTest {
     }
 
     private static void weekdays() {
-        AlmanacHouse x = new AlmanacHouse();
+        House x = new House();
         int[] which = {1, 2, 3, 4, 5, -1};
         for (int c : which) {
             x.feast(1, 2, 3, c, 0);
@@ -155,7 +155,7 @@ public final class FeastsTest {
     }
 
     private static void movableDays() {
-        AlmanacHouse x = new AlmanacHouse();
+        House x = new House();
         int[][] known = {{1818, 3, 22}, {1943, 4, 25}, {1954, 4, 18}, {1981, 4, 19}, {2000, 4, 23}, {2008, 3, 23},
             {2011, 4, 24}, {2024, 3, 31}, {2025, 4, 20}, {2038, 4, 25}, {2285, 3, 22}};
         for (int[] k : known) {
@@ -201,7 +201,7 @@ public final class FeastsTest {
     }
 
     /** The same for CALENDAR 1. */
-    private static int meeusOldDay(AlmanacHouse x, int year) {
+    private static int meeusOldDay(House x, int year) {
         int d = (19 * (year % 19) + 15) % 30;
         int e = (2 * (year % 4) + 4 * (year % 7) - d + 34) % 7;
         int sum = d + e + 114;
@@ -209,7 +209,7 @@ public final class FeastsTest {
     }
 
     private static void movableFeasts() {
-        AlmanacHouse x = new AlmanacHouse();
+        House x = new House();
         x.feast(2, 0, 0, 0, 0);
         x.feast(2, 49, 0, 0, 0);
         x.feast(2, -46, 0, 0, 0);
@@ -223,7 +223,7 @@ public final class FeastsTest {
     }
 
     private static void behindOthers() {
-        AlmanacHouse x = new AlmanacHouse();
+        House x = new House();
         x.feast(0, 12, 25, 0, 5);
         x.feast(0, 12, 25, 0, 9);
         x.feast(3, 0, 12, 0, 9);
@@ -237,7 +237,7 @@ public final class FeastsTest {
         Due.is("behind none", x.feastDay(5, 2001), NONE);
         // 29 2 0 is none, so what is behind it is none, too, though it would be day 0
         Due.is("behind one beyond the range", x.feastDay(5, 0), NONE);
-        AlmanacHouse chain = new AlmanacHouse();
+        House chain = new House();
         chain.feast(0, 6, 1, 0, 1);
         for (int i = 1; i < 60; i++) {
             Due.is("chain " + i, chain.feast(3, i - 1, i % 2 == 0 ? 40 : 39, 0, 1), i);
@@ -247,7 +247,7 @@ public final class FeastsTest {
     }
 
     private static void ranksMove() {
-        AlmanacHouse x = new AlmanacHouse();
+        House x = new House();
         int[] ranks = {0, 1, 2, 2, 0, 9};
         for (int rank : ranks) {
             x.feast(0, 7, 10, 0, rank);
@@ -267,7 +267,7 @@ public final class FeastsTest {
     }
 
     private static void movedBeyondTheRange() {
-        AlmanacHouse x = new AlmanacHouse();
+        House x = new House();
         x.feast(0, 1, 10, 0, 3);
         x.feast(0, 1, 10, 0, 4);
         x.feast(0, 1, 10, 0, 0);
@@ -281,7 +281,7 @@ public final class FeastsTest {
     }
 
     private static void feastsOnADay() {
-        AlmanacHouse x = new AlmanacHouse();
+        House x = new House();
         x.feast(0, 7, 10, 0, 0);
         x.feast(0, 7, 10, 0, 4);
         x.feast(0, 7, 10, 0, 0);
@@ -305,7 +305,7 @@ public final class FeastsTest {
     }
 
     private static void dayRefusals() {
-        AlmanacHouse x = new AlmanacHouse();
+        House x = new House();
         Due.is("feastDay(0, -1)", x.feastDay(0, -1), BAD);
         x.feast(0, 7, 10, 0, 0);
         Due.is("feastDay(-1, -1)", x.feastDay(-1, -1), BAD);

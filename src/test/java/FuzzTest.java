@@ -6,7 +6,7 @@ import java.util.Random;
  * fails fails again: "FuzzTest AlmanacHouse.java 1000 99" makes 1000 runs from seed 99 on.
  */
 public final class FuzzTest {
-    private static final int CALLS = 512;
+    private static final int CALLS = House.MOST_CALLS;
     private static final int THEMES = 8;
     private static final int[] EDGES = {
         0, 1, 2, -1, -2, 7, 8, 12, 13, 53, 54, 60, 61, 100, 101, 127, 128, 200, 201, 255, 256, 400, 500, 800, 801, 1199,
@@ -25,7 +25,7 @@ public final class FuzzTest {
     private final Random random;
     private final int theme;
     private final int focus;
-    private final AlmanacHouse fast = new AlmanacHouse();
+    private final House fast = new House();
     private final SlowHouse slow = new SlowHouse();
     private String call = "";
 
@@ -40,11 +40,10 @@ public final class FuzzTest {
         int runs = args.length > 1 ? Integer.parseInt(args[1]) : 240;
         long seed = args.length > 2 ? Long.parseLong(args[2]) : 1;
         for (long s = seed; s < seed + runs; s++) {
-            if (!new FuzzTest(s).agrees(s)) {
-                System.exit(1);
-            }
+            Due.yes("the run of seed " + s, new FuzzTest(s).agrees(s));
         }
-        System.out.println("FuzzTest: " + runs + " runs of " + CALLS + " calls agree");
+        System.out.println("FuzzTest: " + runs + " runs of " + CALLS + " calls");
+        Due.end("FuzzTest");
     }
 
     private boolean agrees(long seed) {

@@ -4,6 +4,7 @@ public final class LaidDownTest {
 
     public static void main(String[] args) {
         newObjects();
+        objectsShareNothing();
         undoTakesBackTheLatest();
         undoIsOfAHundred();
         otherCallsAreNotTakenBack();
@@ -13,7 +14,7 @@ public final class LaidDownTest {
     }
 
     private static void newObjects() {
-        AlmanacHouse x = new AlmanacHouse();
+        House x = new House();
         for (int what = 0; what <= 6; what++) {
             Due.is("count(" + what + ")", x.count(what), 0);
         }
@@ -30,19 +31,33 @@ public final class LaidDownTest {
                 Due.is("sign(" + line + ", " + i + ")", x.sign(line, i), 32);
             }
         }
-        // objects share nothing
+    }
+
+    private static void objectsShareNothing() {
+        AlmanacHouse x = new AlmanacHouse();
         AlmanacHouse y = new AlmanacHouse();
         y.row(0, 5);
+        y.name(0, 1, 1);
         y.feast(0, 1, 1, 0, 1);
         y.parish(0, false);
+        y.rule(0, 0, 0, 0);
         y.load(1, 1);
+        y.page(0, 0, 8, 9);
+        AlmanacHouse z = new AlmanacHouse();
         for (int what = 0; what <= 6; what++) {
-            Due.is("count(" + what + ") of another", x.count(what), 0);
+            Due.is("count(" + what + ") of one made before", x.count(what), 0);
+            Due.is("count(" + what + ") of one made behind", z.count(what), 0);
         }
+        for (int i = 0; i < 40; i++) {
+            Due.is("sign(0, " + i + ") of one made before", x.sign(0, i), 32);
+            Due.is("sign(0, " + i + ") of one made behind", z.sign(0, i), 32);
+        }
+        Due.is("undo() of one made before", x.undo(), NONE);
+        Due.is("count(5) of the one", y.count(5), 5);
     }
 
     private static void undoTakesBackTheLatest() {
-        AlmanacHouse x = new AlmanacHouse();
+        House x = new House();
         x.parish(96, true);
         x.row(50, 7);
         x.name(3, 3, 33);
@@ -74,7 +89,7 @@ public final class LaidDownTest {
     }
 
     private static void undoIsOfAHundred() {
-        AlmanacHouse x = new AlmanacHouse();
+        House x = new House();
         for (int i = 0; i < 150; i++) {
             x.row(10 * i, 10);
             Due.is("count(5)", x.count(5), Math.min(100, i + 1));
@@ -103,7 +118,7 @@ public final class LaidDownTest {
     }
 
     private static void otherCallsAreNotTakenBack() {
-        AlmanacHouse x = new AlmanacHouse();
+        House x = new House();
         x.parish(1, false);
         x.load(77, 1);
         x.page(0, 0, 8, 9);
@@ -127,7 +142,7 @@ public final class LaidDownTest {
     }
 
     private static void takenBackIsAsIfNever() {
-        AlmanacHouse x = new AlmanacHouse();
+        House x = new House();
         x.feast(0, 5, 5, 0, 1);
         Due.is("moved(0, 7)", x.moved(0, 7), 0);
         x.feast(0, 5, 5, 0, 2);
@@ -143,7 +158,7 @@ public final class LaidDownTest {
     }
 
     private static void counts() {
-        AlmanacHouse x = new AlmanacHouse();
+        House x = new House();
         x.row(0, 1);
         x.name(0, 1, 1);
         x.name(0, 1, 2);

@@ -4,7 +4,7 @@ public final class MoonsTest {
     private static final int BAD = AlmanacHouse.BAD, OUTSIDE = AlmanacHouse.OUTSIDE;
 
     public static void main(String[] args) {
-        AlmanacHouse x = new AlmanacHouse();
+        House x = new House();
         ages(x);
         newMoons(x);
         estimates(x);
@@ -13,7 +13,7 @@ public final class MoonsTest {
         Due.end("MoonsTest");
     }
 
-    private static void ages(AlmanacHouse x) {
+    private static void ages(House x) {
         long latest = 5604 - 765433;
         for (int n = 0; n <= LAST; n++) {
             while (latest + 765433 <= n * 25920L) {
@@ -25,7 +25,7 @@ public final class MoonsTest {
         }
     }
 
-    private static void newMoons(AlmanacHouse x) {
+    private static void newMoons(House x) {
         long parts = 5604;
         for (int k = 0; k < 50795; k++) {
             Due.is("newMoon(" + k + ")", x.newMoon(k), parts / 25920);
@@ -43,7 +43,7 @@ public final class MoonsTest {
         return r * (q - 1.0) * outer;
     }
 
-    private static double estimate(AlmanacHouse x, int n) {
+    private static double estimate(House x, int n) {
         double[] sizes = {0.41, 0.174, 0.018, 0.0115, -0.0041};
         double[] speeds = {0.0362916, 0.0027379, 0.0677, 0.0734, 0.0314};
         double[] starts = {0.3, 0.05, 0.7, 0.11, 0.5};
@@ -54,7 +54,7 @@ public final class MoonsTest {
         return sum;
     }
 
-    private static void estimates(AlmanacHouse x) {
+    private static void estimates(House x) {
         Due.is("estimate(0)", x.estimate(0), 29.748126491503992);
         Due.is("estimate(738000)", x.estimate(738000), 0.6161429097136478);
         Due.is("estimate(1500000)", x.estimate(1500000), 22.283599438966384);
@@ -66,7 +66,7 @@ public final class MoonsTest {
         Due.yes("some estimates are below 0", below);
     }
 
-    private static void lights(AlmanacHouse x) {
+    private static void lights(House x) {
         int least = 1000;
         int most = 0;
         for (int n = 0; n <= LAST; n += 7) {
@@ -80,7 +80,7 @@ public final class MoonsTest {
         Due.is("the most light", most, 1000);
     }
 
-    private static void refusals(AlmanacHouse x) {
+    private static void refusals(House x) {
         for (int n : new int[] {-1, LAST + 1, Integer.MAX_VALUE, Integer.MIN_VALUE}) {
             Due.is("age(" + n + ")", x.age(n), OUTSIDE);
             Due.is("estimate(" + n + ")", x.estimate(n), -1.0);

@@ -20,7 +20,7 @@ public final class PagesAndBooksTest {
         Due.end("PagesAndBooksTest");
     }
 
-    private static String line(AlmanacHouse x, int line) {
+    private static String line(House x, int line) {
         StringBuilder text = new StringBuilder();
         for (int i = 0; i < 40; i++) {
             text.append((char) x.sign(line, i));
@@ -28,13 +28,13 @@ public final class PagesAndBooksTest {
         return text.toString();
     }
 
-    private static void lineIs(AlmanacHouse x, int line, String due) {
+    private static void lineIs(House x, int line, String due) {
         String got = line(x, line);
         Due.yes("line " + line + " is '" + due + "', not '" + got + "'", got.equals(String.format("%-40s", due)));
     }
 
     private static void pageOfTheFirstMonth() {
-        AlmanacHouse x = new AlmanacHouse();
+        House x = new House();
         for (int i = 0; i < 28; i++) {
             lineIs(x, i, "");
         }
@@ -70,7 +70,7 @@ public final class PagesAndBooksTest {
 
     /** A MONTH of CALENDAR 5 over the turn of the YEAR: each day's own YEAR counts. */
     private static void pageOverTwoYears() {
-        AlmanacHouse x = new AlmanacHouse();
+        House x = new House();
         x.parish(0, false);
         x.feast(0, 12, 31, 0, 9);
         x.feast(0, 12, 31, 0, 8);
@@ -85,7 +85,7 @@ public final class PagesAndBooksTest {
     }
 
     private static void longPages() {
-        AlmanacHouse x = new AlmanacHouse();
+        House x = new House();
         x.row(1001, 200);
         x.parish(0, false);
         x.feast(0, 1, 1, 0, 9);
@@ -95,7 +95,7 @@ public final class PagesAndBooksTest {
         Due.yes("line 16", line(x, 16).startsWith("99  0  1  2  3  4  5 "));
         Due.yes("line 17", line(x, 17).startsWith(" 6  7  8  9 10 11 12 "));
         Due.yes("line 27", line(x, 27).startsWith("76 77 78 79 80 81 82 "));
-        AlmanacHouse y = new AlmanacHouse();
+        House y = new House();
         y.parish(0, false);
         for (int i = 0; i < 60; i++) {
             y.feast(0, 3, 1, 0, 0);
@@ -103,7 +103,7 @@ public final class PagesAndBooksTest {
         Due.is("page(0, 0, 1, 3)", y.page(0, 0, 1, 3), 28);
         lineIs(y, 7, " 1 0  0");
         lineIs(y, 27, " 1 20 0");
-        AlmanacHouse z = new AlmanacHouse();
+        House z = new House();
         z.row(1001, 175);
         z.parish(0, false);
         z.feast(0, 1, 1, 0, 9);
@@ -115,7 +115,7 @@ public final class PagesAndBooksTest {
     }
 
     private static void pagesOfWeeksAndOthers() {
-        AlmanacHouse x = new AlmanacHouse();
+        House x = new House();
         x.parish(127, false);
         Due.is("page(0, 5, 2000, 7)", x.page(0, 5, 2000, 7), 3);
         lineIs(x, 0, "2000 7");
@@ -149,7 +149,7 @@ public final class PagesAndBooksTest {
 
     /** A NEW MOON in a day's first or last PART falls on that day and on no other. */
     private static void moonsAtTheTurnOfADay() {
-        AlmanacHouse x = new AlmanacHouse();
+        House x = new House();
         x.parish(0, false);
         int found = 0;
         for (int k = 0; k <= 50794; k++) {
@@ -169,14 +169,14 @@ public final class PagesAndBooksTest {
         Due.yes("there are such moons", found >= 4);
     }
 
-    private static int weeks(AlmanacHouse x, int calendar, int year, int month) {
+    private static int weeks(House x, int calendar, int year, int month) {
         int first = x.toDay(calendar, year, month, 1);
         int last = first + x.monthLength(calendar, year, month) - 1;
         return last / 7 - first / 7 + 1;
     }
 
     private static void pageRefuses() {
-        AlmanacHouse x = new AlmanacHouse();
+        House x = new House();
         Due.is("page(0, 0, 1, 1)", x.page(0, 0, 1, 1), BAD);
         x.parish(0, false);
         x.page(0, 0, 9, 9);
@@ -199,7 +199,7 @@ public final class PagesAndBooksTest {
     }
 
     private static void signRefuses() {
-        AlmanacHouse x = new AlmanacHouse();
+        House x = new House();
         Due.is("sign(0, 0)", x.sign(0, 0), 32);
         Due.is("sign(27, 39)", x.sign(27, 39), 32);
         for (int bad : new int[] {-1, 40, Integer.MAX_VALUE, Integer.MIN_VALUE}) {
@@ -210,7 +210,7 @@ public final class PagesAndBooksTest {
         Due.is("sign(27, 40)", x.sign(27, 40), BAD);
     }
 
-    private static int sum(AlmanacHouse x, int from, int to) {
+    private static int sum(House x, int from, int to) {
         int s = 1;
         for (int i = from; i < to; i++) {
             int mixed = s ^ x.byteAt(i);
@@ -219,7 +219,7 @@ public final class PagesAndBooksTest {
         return s;
     }
 
-    private static void sumIs(AlmanacHouse x, int from, int at) {
+    private static void sumIs(House x, int from, int at) {
         int s = sum(x, from, at);
         for (int i = 0; i < 4; i++) {
             Due.is("byte " + i + " of the SUM", x.byteAt(at + i), s >>> 24 - 8 * i & 255);
@@ -227,7 +227,7 @@ public final class PagesAndBooksTest {
     }
 
     private static void bookOfAYear() {
-        AlmanacHouse x = new AlmanacHouse();
+        House x = new House();
         x.parish(64, true);
         x.feast(0, 12, 25, 0, 5);
         x.feast(0, 12, 25, 0, 0);
@@ -256,7 +256,7 @@ public final class PagesAndBooksTest {
     }
 
     private static void bridgesAtTheEndsOfABook() {
-        AlmanacHouse x = new AlmanacHouse();
+        House x = new House();
         x.parish(0, true);
         x.parish(0, true);
         x.feast(0, 12, 30, 0, 1);
@@ -276,7 +276,7 @@ public final class PagesAndBooksTest {
     }
 
     private static void manyFeastsOnADay() {
-        AlmanacHouse x = new AlmanacHouse();
+        House x = new House();
         x.parish(0, false);
         for (int i = 0; i < 20; i++) {
             x.feast(0, 1, 1, 0, 0);
@@ -294,7 +294,7 @@ public final class PagesAndBooksTest {
     }
 
     private static void booksRefuse() {
-        AlmanacHouse x = new AlmanacHouse();
+        House x = new House();
         Due.is("book(0, 2000)", x.book(0, 2000), BAD);
         x.parish(0, false);
         Due.is("book(1, -1)", x.book(1, -1), BAD);
@@ -323,7 +323,7 @@ public final class PagesAndBooksTest {
     }
 
     private static void tapeOfBytes() {
-        AlmanacHouse x = new AlmanacHouse();
+        House x = new House();
         Due.is("byteAt(0)", x.byteAt(0), NONE);
         Due.is("spoil(0, 1)", x.spoil(0, 1), NONE);
         Due.is("wipe()", x.wipe(), 0);
@@ -370,7 +370,7 @@ public final class PagesAndBooksTest {
     }
 
     private static void booksAreVerified() {
-        AlmanacHouse x = new AlmanacHouse();
+        House x = new House();
         Due.is("verify()", x.verify(), NONE);
         // a BOOK of no days and one of two; the YEAR is not looked at
         x.load(0xFFFF0000, 4);

@@ -21,7 +21,7 @@ public final class ParishesTest {
     }
 
     private static void parishesAreCounted() {
-        AlmanacHouse x = new AlmanacHouse();
+        House x = new House();
         for (int weekly : new int[] {-1, 128, Integer.MAX_VALUE, Integer.MIN_VALUE}) {
             Due.is("parish(" + weekly + ", true)", x.parish(weekly, true), BAD);
         }
@@ -38,7 +38,7 @@ public final class ParishesTest {
     }
 
     private static void rulesAreCounted() {
-        AlmanacHouse x = new AlmanacHouse();
+        House x = new House();
         Due.is("rule(0, 0, 0, 0)", x.rule(0, 0, 0, 0), BAD);
         x.parish(0, false);
         Due.is("rule(0, 0, 0, 0) without FEASTS", x.rule(0, 0, 0, 0), BAD);
@@ -65,7 +65,7 @@ public final class ParishesTest {
     }
 
     private static void weeklyDays() {
-        AlmanacHouse x = new AlmanacHouse();
+        House x = new House();
         x.parish(0b1010001, false);
         int[] off = {1, 0, 0, 0, 1, 0, 1};
         for (int n = 0; n < 30; n++) {
@@ -75,7 +75,7 @@ public final class ParishesTest {
     }
 
     private static void feastDays() {
-        AlmanacHouse x = new AlmanacHouse();
+        House x = new House();
         x.feast(0, 5, 10, 0, 1);
         x.feast(0, 5, 10, 0, 2);
         x.parish(0, false);
@@ -91,7 +91,7 @@ public final class ParishesTest {
     }
 
     private static void bridges() {
-        AlmanacHouse x = new AlmanacHouse();
+        House x = new House();
         x.parish(0b0000101, true);
         x.parish(0b0000101, false);
         int[] off = {1, 1, 1, 0, 0, 0, 0};
@@ -119,7 +119,7 @@ public final class ParishesTest {
 
     /** The days beside the one that is asked for have YEARS of their own around them. */
     private static void bridgesBetweenFeasts() {
-        AlmanacHouse x = new AlmanacHouse();
+        House x = new House();
         x.parish(0, true);
         x.feast(0, 7, 1, 0, 1);
         x.feast(0, 7, 3, 0, 1);
@@ -132,7 +132,7 @@ public final class ParishesTest {
         Due.is("nextOff of the first", x.nextOff(0, day - 1), day);
         Due.is("inRow between", x.inRow(0, day), 3);
         // 1 1 2001 by a FEAST of 2002, 31 12 2000 by one of 1999
-        AlmanacHouse y = new AlmanacHouse();
+        House y = new House();
         y.feast(0, 1, 1, 0, 1);
         y.feast(0, 12, 31, 0, 1);
         for (int i = 0; i < 9; i++) {
@@ -158,7 +158,7 @@ public final class ParishesTest {
     }
 
     private static void yearsAround() {
-        AlmanacHouse x = new AlmanacHouse();
+        House x = new House();
         x.feast(0, 12, 31, 0, 1);
         x.feast(0, 1, 1, 0, 1);
         x.parish(0, false);
@@ -175,7 +175,7 @@ public final class ParishesTest {
 
     /** A FEAST frees days of its own YEAR, the one before and the next one alone. */
     private static void feastsFarBehindFreeNothing() {
-        AlmanacHouse x = new AlmanacHouse();
+        House x = new House();
         x.feast(0, 6, 1, 0, 1);
         for (int i = 1; i < 40; i++) {
             x.feast(3, i - 1, 40, 0, 1);
@@ -191,7 +191,7 @@ public final class ParishesTest {
             Due.yes("feast " + i + " of 2000 is off if near", !near || x.isOff(0, day) == 1);
         }
         // 31 12 2001 is free by the chain of 2000 at most, 1 1 2002 is not
-        AlmanacHouse y = new AlmanacHouse();
+        House y = new House();
         y.feast(0, 12, 30, 0, 1);
         for (int i = 1; i < 10; i++) {
             y.feast(3, i - 1, 40, 0, 1);
@@ -207,7 +207,7 @@ public final class ParishesTest {
     }
 
     private static void workedDays() {
-        AlmanacHouse x = new AlmanacHouse();
+        House x = new House();
         x.parish(96, false);
         x.feast(0, 12, 25, 0, 1);
         Due.is("worked(0, 0, 6)", x.worked(0, 0, 6), 5);
@@ -223,7 +223,7 @@ public final class ParishesTest {
     }
 
     private static void nextDays() {
-        AlmanacHouse x = new AlmanacHouse();
+        House x = new House();
         x.parish(96, false);
         Due.is("nextOff(0, 0)", x.nextOff(0, 0), 5);
         Due.is("nextOff(0, 5)", x.nextOff(0, 5), 6);
@@ -239,7 +239,7 @@ public final class ParishesTest {
     }
 
     private static void rows() {
-        AlmanacHouse x = new AlmanacHouse();
+        House x = new House();
         x.parish(96, false);
         Due.is("inRow(0, 4)", x.inRow(0, 4), 0);
         Due.is("inRow(0, 5)", x.inRow(0, 5), 2);
@@ -264,7 +264,7 @@ public final class ParishesTest {
     }
 
     private static void refusals() {
-        AlmanacHouse x = new AlmanacHouse();
+        House x = new House();
         Due.is("isOff(0, -1)", x.isOff(0, -1), BAD);
         Due.is("nextOff(0, -1)", x.nextOff(0, -1), BAD);
         Due.is("inRow(0, -1)", x.inRow(0, -1), BAD);

@@ -15,7 +15,7 @@ public final class TownAndWordsTest {
     }
 
     private static void rowsFollowOneAnother() {
-        AlmanacHouse x = new AlmanacHouse();
+        House x = new House();
         Due.is("row(700, 1)", x.row(700, 1), 1);
         Due.is("row(701, 200)", x.row(701, 200), 2);
         Due.is("row(901, 30)", x.row(901, 30), 3);
@@ -31,7 +31,7 @@ public final class TownAndWordsTest {
     }
 
     private static void rowsRefuse() {
-        AlmanacHouse x = new AlmanacHouse();
+        House x = new House();
         for (int length : new int[] {0, -1, 201, Integer.MAX_VALUE, Integer.MIN_VALUE}) {
             Due.is("row(-1, " + length + ")", x.row(-1, length), BAD);
             Due.is("row(5, " + length + ")", x.row(5, length), BAD);
@@ -42,13 +42,13 @@ public final class TownAndWordsTest {
         Due.is("row(1499801, 200)", x.row(1499801, 200), 1);
         Due.is("row(1500001, 1) behind the last day", x.row(1500001, 1), OUTSIDE);
         Due.is("count(0)", x.count(0), 1);
-        x = new AlmanacHouse();
+        x = new House();
         Due.is("row(1500000, 1)", x.row(1500000, 1), 1);
         Due.is("fromDay(7, 1500000, 2)", x.fromDay(7, 1500000, 2), 1);
     }
 
     private static void rowsAreFull() {
-        AlmanacHouse x = new AlmanacHouse();
+        House x = new House();
         for (int i = 0; i < 500; i++) {
             Due.is("row " + i, x.row(10 + 3 * i, 3), i + 1);
         }
@@ -68,7 +68,7 @@ public final class TownAndWordsTest {
     }
 
     private static void rowsAreFullAtTheEnd() {
-        AlmanacHouse x = new AlmanacHouse();
+        House x = new House();
         for (int i = 0; i < 500; i++) {
             x.row(1499501 + i, 1);
         }
@@ -77,7 +77,7 @@ public final class TownAndWordsTest {
     }
 
     private static void wordsNameMonths() {
-        AlmanacHouse x = new AlmanacHouse();
+        House x = new House();
         Due.is("name(0, 1, 5)", x.name(0, 1, 5), 1);
         Due.is("name(0, 1, -5)", x.name(0, 1, -5), 2);
         Due.is("name(0, 53, MAX)", x.name(0, 53, Long.MAX_VALUE), 1);
@@ -102,7 +102,7 @@ public final class TownAndWordsTest {
     }
 
     private static void wordsRefuse() {
-        AlmanacHouse x = new AlmanacHouse();
+        House x = new House();
         for (int c : new int[] {-1, 8, Integer.MAX_VALUE, Integer.MIN_VALUE}) {
             Due.is("name(" + c + ", 1, 5)", x.name(c, 1, 5), BAD);
             Due.is("monthNamed(" + c + ", 5)", x.monthNamed(c, 5), BAD);
@@ -124,7 +124,7 @@ public final class TownAndWordsTest {
     }
 
     private static void wordsAreFull() {
-        AlmanacHouse x = new AlmanacHouse();
+        House x = new House();
         for (int i = 0; i < 300; i++) {
             int calendar = i / 150;
             Due.is("name " + i, x.name(calendar, i % 150 / 3 + 1, 1000 + i), i % 3 + 1);

@@ -21,8 +21,16 @@ final class Twins {
     static {
         for (Method m : AlmanacHouse.class.getDeclaredMethods()) {
             if (Modifier.isPublic(m.getModifiers())) {
-                FACE.put(m.getName(), m);
+                FACE.put(m.getName(), alikeInHouse(m));
             }
+        }
+    }
+
+    private static Method alikeInHouse(Method m) {
+        try {
+            return House.class.getDeclaredMethod(m.getName(), m.getParameterTypes());
+        } catch (NoSuchMethodException e) {
+            throw new IllegalStateException(e);
         }
     }
 
@@ -53,8 +61,8 @@ final class Twins {
         }
     }
 
-    private final AlmanacHouse told = new AlmanacHouse();
-    private final AlmanacHouse spared = new AlmanacHouse();
+    private final House told = new House();
+    private final House spared = new House();
 
     /** A call that is accepted, or changes nothing by its nature: both are told. */
     Twins due(double want, String call, Object... arguments) {
@@ -89,7 +97,7 @@ final class Twins {
     void alike() {
         Due.is("all that can be seen of the twins is alike", look(told) == look(spared) ? 1 : 0, 1);
         boolean more = true;
-        for (int i = 0; i <= 100 && more; i++) {
+        for (int i = 0; i <= 100 && more && told.hasRoom() && spared.hasRoom(); i++) {
             int left = told.undo();
             Due.is("undo() of the twins", left, spared.undo());
             for (int what = 0; what <= 6; what++) {
@@ -108,7 +116,7 @@ final class Twins {
         return text.append(')').toString();
     }
 
-    private static double answer(AlmanacHouse house, String call, Object... arguments) {
+    private static double answer(House house, String call, Object... arguments) {
         keepExtremes(call, arguments);
         try {
             return ((Number) FACE.get(call).invoke(house, arguments)).doubleValue();
@@ -120,7 +128,7 @@ final class Twins {
         }
     }
 
-    private static long look(AlmanacHouse x) {
+    private static long look(House x) {
         long seen = 7;
         for (int what = 0; what <= 6; what++) {
             seen = seen * 31 + x.count(what);
@@ -138,7 +146,7 @@ final class Twins {
         return seen;
     }
 
-    private static long lookAtRows(AlmanacHouse x, long before) {
+    private static long lookAtRows(House x, long before) {
         long seen = before;
         for (int year = 1; year <= 51; year++) {
             seen = seen * 31 + x.yearLength(7, year);
@@ -150,7 +158,7 @@ final class Twins {
         return seen;
     }
 
-    private static long lookAtWords(AlmanacHouse x, long before) {
+    private static long lookAtWords(House x, long before) {
         long seen = before;
         for (int calendar = 0; calendar < 8; calendar++) {
             for (long word = 0; word < 320; word++) {
@@ -163,7 +171,7 @@ final class Twins {
         return seen;
     }
 
-    private static long lookAtFeasts(AlmanacHouse x, long before) {
+    private static long lookAtFeasts(House x, long before) {
         long seen = before;
         for (int feast = 0; feast < x.count(2); feast++) {
             for (int year : YEARS) {
@@ -176,7 +184,7 @@ final class Twins {
         return seen;
     }
 
-    private static long lookAtParishes(AlmanacHouse x, long before) {
+    private static long lookAtParishes(House x, long before) {
         long seen = before;
         for (int parish = 0; parish < x.count(3); parish++) {
             for (int n = 0; n < 40; n++) {
