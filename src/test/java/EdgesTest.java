@@ -3,6 +3,7 @@ import java.io.IOException;
 /** Every sentence of the document that names an edge, each with a test of its own. */
 public final class EdgesTest {
     public static void main(String[] args) throws IOException {
+        EdgesOfUse.run();
         EdgesOfCalendars.run();
         EdgesOfAdding.run();
         EdgesOfRowsAndWords.run();

@@ -5,14 +5,34 @@ import java.util.ArrayList;
 import java.util.List;
 
 /**
- * Writes the class again with a limit: its objects throw at their 513th call. The
- * document leaves free what such a call answers, so every test must pass with this
- * class as it does with the true one. "Limit AlmanacHouse.java limited/AlmanacHouse.java"
+ * Writes the class again with a limit: its objects throw at their 513th call, and in
+ * toString, equals and hashCode. The document leaves free what these answer, so every
+ * test must pass with this class as it does with the true one.
+ * "Limit AlmanacHouse.java limited/AlmanacHouse.java"
  */
 public final class Limit {
     private static final String CLASS = "public final class AlmanacHouse {";
     private static final String CALL = " {4}public (int|double) \\w+\\(.*\\) \\{";
     private static final int CALLS_OF_THE_FACE = 38;
+
+    private static final String LIMIT = """
+            private int timesUsed;
+            private void useOnce() {
+                timesUsed++;
+                if (timesUsed > %d) {
+                    throw new IllegalStateException("used up");
+                }
+            }
+            @Override public String toString() {
+                throw new IllegalStateException("toString is free");
+            }
+            @Override public boolean equals(Object other) {
+                throw new IllegalStateException("equals is free");
+            }
+            @Override public int hashCode() {
+                throw new IllegalStateException("hashCode is free");
+            }
+        """.formatted(House.MOST_CALLS);
 
     public static void main(String[] args) throws IOException {
         List<String> limited = new ArrayList<>();
@@ -20,14 +40,7 @@ public final class Limit {
         for (String line : Files.readAllLines(Path.of(args[0]))) {
             limited.add(line);
             if (line.equals(CLASS)) {
-                limited.add("    private int timesUsed;");
-                limited.add("    private void useOnce() {");
-                limited.add("        timesUsed++;");
-                limited.add("        if (timesUsed > " + House.MOST_CALLS + ") {");
-                limited.add("            throw new IllegalStateException(\"used more than "
-                    + House.MOST_CALLS + " times\");");
-                limited.add("        }");
-                limited.add("    }");
+                limited.add(LIMIT);
             }
             if (line.matches(CALL)) {
                 limited.add("        useOnce();");

@@ -4,12 +4,14 @@ import java.nio.file.Path;
 import java.util.BitSet;
 
 /**
- * Holds the quotes of the tests against the document: each must stand in it word
- * for word, and together they must leave no word of the promises and terms out.
+ * Holds the quotes of the tests against the document: each must stand in it word for
+ * word, and together they must leave no word of it out. (The face is FaceTest's.)
  */
 final class Sentences {
     private static final Path DOCUMENT = Path.of("../shared/DOC.md");
     private static final int PROMISES = 39;
+    /** Under these numbers stand the words ahead of the promises, and those behind them. */
+    static final int WHAT_IT_IS = 0, NOT_PROMISED = PROMISES + 1;
     private static final String TERMS = "## Terms", BEHIND_TERMS = "Ahead of the calls `toDay`";
     private static final String BEHIND_PROMISES = "## Not promised";
     /** Words that only tell where one is: they promise nothing. */
@@ -34,7 +36,7 @@ final class Sentences {
             Due.yes("promise " + quote.promise() + " or the terms say '" + quote.words() + "'", inTerms || inPromise);
         }
         leavesNothing("the terms", terms, told);
-        for (int promise = 1; promise <= PROMISES; promise++) {
+        for (int promise = WHAT_IT_IS; promise <= NOT_PROMISED; promise++) {
             leavesNothingOf(promise, plain(promise(document, promise)));
         }
     }
@@ -51,6 +53,12 @@ final class Sentences {
 
     /** A promise's words behind its heading and the call's form. */
     private static String promise(String document, int promise) {
+        if (promise == WHAT_IT_IS) {
+            return between(document, "## What it is", "## The public face");
+        }
+        if (promise == NOT_PROMISED) {
+            return document.substring(document.indexOf(BEHIND_PROMISES) + BEHIND_PROMISES.length());
+        }
         String next = promise == PROMISES ? BEHIND_PROMISES : "## Promise " + (promise + 1) + ":";
         String section = between(document, "## Promise " + promise + ":", next);
         return section.substring(section.indexOf("`: ") + 3);

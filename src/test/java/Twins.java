@@ -19,19 +19,13 @@ final class Twins {
     private static final Set<String> EXTREMES = new HashSet<>();
 
     static {
-        for (Method m : AlmanacHouse.class.getDeclaredMethods()) {
-            if (Modifier.isPublic(m.getModifiers())) {
-                FACE.put(m.getName(), alikeInHouse(m));
+        for (Method m : House.class.getDeclaredMethods()) {
+            boolean answers = m.getReturnType() == int.class || m.getReturnType() == double.class;
+            if (answers && !Modifier.isPrivate(m.getModifiers())) {
+                FACE.put(m.getName(), m);
             }
         }
-    }
-
-    private static Method alikeInHouse(Method m) {
-        try {
-            return House.class.getDeclaredMethod(m.getName(), m.getParameterTypes());
-        } catch (NoSuchMethodException e) {
-            throw new IllegalStateException(e);
-        }
+        Due.is("calls of a house", FACE.size(), 38);
     }
 
     /** Of each number that a call of the face takes the greatest and the least one must have been handed over. */
