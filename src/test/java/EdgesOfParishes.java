@@ -408,6 +408,15 @@ final class EdgesOfParishes {
         x.tell("feast", FIXED, 7, 1, 0, 1).tell("rule", 0, 0, 10, 10);
         int day = Dates.dayOf(2000, 7, 1);
         x.due(800 - 3 * 21, "worked", 0, day - 10, day + 789).due(800 - 11 - 2 * 21, "worked", 0, day, day + 799).alike();
+        // a FEAST whose days lie across either end, or just beyond it: one in a thousand days
+        x = new Twins().tell("parish", 0, false).tell("feast", FIXED, 2, 29, 0, 1).tell("rule", 0, 0, 10, 10);
+        int leap = Dates.dayOf(2000, 2, 29);
+        for (int beyond = -12; beyond <= 12; beyond++) {
+            int within = Math.max(0, Math.min(21, 11 - beyond));
+            x.due(800 - within, "worked", 0, leap - beyond - 799, leap - beyond);
+            x.due(800 - Math.max(0, Math.min(21, 11 + beyond)), "worked", 0, leap - beyond, leap - beyond + 799);
+        }
+        x.alike();
     }
 
     private static void workedOutside() {
